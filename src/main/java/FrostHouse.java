@@ -36,6 +36,8 @@ public final class FrostHouse {
     private static final int MOST_RESOURCES = 12;
     private static final int MOST_FAILURES = 20;
     private static final int MOST_HANDLES = 8;
+    private static final int MOST_INT = 2147483647;
+    private static final long MOST_FOUR = 4294967295L;
 
     private static final int KIND_TEXT = 254;
     private static final int KIND_ROW = 255;
@@ -158,7 +160,6 @@ public final class FrostHouse {
 
     private final byte[] tape = new byte[MOST_TAPE];
     private final byte[] image = new byte[MOST_TAPE];
-    private final byte[] retold = new byte[MOST_TAPE];
     private final Maker maker = new Maker();
     private final Runner runner = new Runner();
     private final Writer writer = new Writer();
@@ -238,7 +239,7 @@ public final class FrostHouse {
             done++;
         }
         if (done > 0 && machine.status == FROZEN) {
-            imageLength = writer.write(machine, image);
+            imageLength = writer.tellAll(machine, image, MOST_TAPE, false);
         }
         return done;
     }
@@ -272,7 +273,7 @@ public final class FrostHouse {
         if (machine.status == NO_MACHINE || machine.handles != 0) {
             return NONE;
         }
-        imageLength = writer.write(machine, image);
+        imageLength = writer.tellAll(machine, image, MOST_TAPE, false);
         return imageLength;
     }
 
@@ -330,7 +331,7 @@ public final class FrostHouse {
             return refuse(5, place);
         }
         reader.settle(clock, arg);
-        place = firstOther(writer.write(spare, retold));
+        place = writer.tellAll(spare, tape, tapeLength, true);
         if (place != NONE) {
             return refuse(6, place);
         }
@@ -383,15 +384,6 @@ public final class FrostHouse {
         restoreKind = kind;
         restorePlace = place;
         return kind;
-    }
-
-    private int firstOther(int length) {
-        for (int i = 0; i < length && i < tapeLength; i++) {
-            if (retold[i] != tape[i]) {
-                return i;
-            }
-        }
-        return length == tapeLength ? NONE : Math.min(length, tapeLength);
     }
 
     private static void setFour(byte[] row, int at, int v) {
@@ -477,6 +469,8 @@ public final class FrostHouse {
         final int[] size = new int[ROOM];
         // Of a name: the same number for all of its spelling; of a number its worth; of a string its number.
         final int[] value = new int[ROOM];
+        // Of a token that tells the type of a member or parameter: which one.
+        final int[] typed = new int[ROOM];
         private final int[] spelling = new int[ROOM];
         private final int[] spellingMix = new int[ROOM];
         private int spellings;
@@ -566,7 +560,7 @@ public final class FrostHouse {
                 stop++;
             }
             boolean goesOn = stop < length && isNamed(text[stop] & 255);
-            if (goesOn || worth > Integer.MAX_VALUE) {
+            if (goesOn || worth > MOST_INT) {
                 return readBad(at);
             }
             add(NUMBER, at, stop - at, (int) worth);
@@ -715,7 +709,7 @@ public final class FrostHouse {
                 for (int i = 0; i < MEMBER_ROOM && isGood() && peek() != Tokens.CLOSE_BRACE; i++) {
                     readMember();
                 }
-                close(Tokens.CLOSE_BRACE);
+                need(Tokens.CLOSE_BRACE);
             } while (isGood() && peek() != Tokens.END && classes < CLASS_ROOM);
         }
 
@@ -728,7 +722,7 @@ public final class FrostHouse {
                 classes++;
             }
             need(Tokens.NAME);
-            open(Tokens.OPEN_BRACE);
+            need(Tokens.OPEN_BRACE);
             fields = 0;
         }
 
@@ -775,7 +769,7 @@ public final class FrostHouse {
         }
 
         private void readParameters() {
-            open(Tokens.OPEN);
+            need(Tokens.OPEN);
             boolean more = isGood() && peek() != Tokens.CLOSE;
             int parameters = 0;
             for (int i = 0; i < MEMBER_ROOM && more && isGood(); i++) {
@@ -787,15 +781,15 @@ public final class FrostHouse {
             if (members > 0) {
                 memberParameters[members - 1] = parameters;
             }
-            close(Tokens.CLOSE);
+            need(Tokens.CLOSE);
         }
 
         private void block() {
-            open(Tokens.OPEN_BRACE);
+            need(Tokens.OPEN_BRACE);
             for (int i = 0; i < MOST_TEXT && isGood() && peek() != Tokens.CLOSE_BRACE; i++) {
                 statement();
             }
-            close(Tokens.CLOSE_BRACE);
+            need(Tokens.CLOSE_BRACE);
         }
 
         private void statement() {
@@ -813,9 +807,9 @@ public final class FrostHouse {
                 at++;
                 block();
                 need(Tokens.W_CATCH);
-                open(Tokens.OPEN);
+                need(Tokens.OPEN);
                 need(Tokens.NAME);
-                close(Tokens.CLOSE);
+                need(Tokens.CLOSE);
                 block();
             } else if (first == Tokens.W_SYNC) {
                 at++;
@@ -853,9 +847,9 @@ public final class FrostHouse {
         }
 
         private void condition() {
-            open(Tokens.OPEN);
+            need(Tokens.OPEN);
             expression();
-            close(Tokens.CLOSE);
+            need(Tokens.CLOSE);
         }
 
         private void inner() {
@@ -958,27 +952,27 @@ public final class FrostHouse {
                 return;
             }
             need(Tokens.NAME);
-            open(Tokens.OPEN);
-            close(Tokens.CLOSE);
+            need(Tokens.OPEN);
+            need(Tokens.CLOSE);
         }
 
         private void index() {
-            open(Tokens.OPEN_BRACKET);
+            need(Tokens.OPEN_BRACKET);
             expression();
-            close(Tokens.CLOSE_BRACKET);
+            need(Tokens.CLOSE_BRACKET);
         }
 
         private void arguments() {
             if (!isGood() || peek() != Tokens.OPEN) {
                 return;
             }
-            open(Tokens.OPEN);
+            need(Tokens.OPEN);
             boolean more = isGood() && peek() != Tokens.CLOSE;
             for (int i = 0; i < MOST_TEXT && more && isGood(); i++) {
                 expression();
                 more = accept(Tokens.COMMA);
             }
-            close(Tokens.CLOSE);
+            need(Tokens.CLOSE);
         }
 
         private boolean isGood() {
@@ -995,11 +989,18 @@ public final class FrostHouse {
             return there;
         }
 
+        // Brackets count as open till they close; this one method sees them all.
         private void need(int kind) {
-            if (badPlace == NONE && tokens.kind[at] == kind) {
+            boolean opens = kind == Tokens.OPEN || kind == Tokens.OPEN_BRACE || kind == Tokens.OPEN_BRACKET;
+            boolean closes = kind == Tokens.CLOSE || kind == Tokens.CLOSE_BRACE || kind == Tokens.CLOSE_BRACKET;
+            if (badPlace != NONE) {
+                return;
+            }
+            if (tokens.kind[at] == kind && !(opens && depth >= MOST_DEPTH)) {
                 at++;
+                depth += opens ? 1 : closes ? -1 : 0;
             } else {
-                fail();
+                badPlace = tokens.place[at];
             }
         }
 
@@ -1012,27 +1013,9 @@ public final class FrostHouse {
             }
         }
 
-        private void open(int kind) {
-            if (badPlace == NONE && tokens.kind[at] == kind && depth < MOST_DEPTH) {
-                at++;
-            } else {
-                fail();
-            }
-            depth++;
-        }
-
-        private void close(int kind) {
-            depth--;
-            if (badPlace == NONE && tokens.kind[at] == kind) {
-                at++;
-            } else {
-                fail();
-            }
-        }
-
         private void deepen() {
-            if (depth >= MOST_DEPTH) {
-                fail();
+            if (depth >= MOST_DEPTH && badPlace == NONE) {
+                badPlace = tokens.place[at];
             }
             depth++;
         }
@@ -1046,7 +1029,7 @@ public final class FrostHouse {
 
     /** Makes a text to instructions, or finds its faults: of each kind the least place. */
     private static final class Maker {
-        static final int NO_PLACE = Integer.MAX_VALUE;
+        static final int NO_PLACE = MOST_INT;
         static final int KINDS = 6;
         static final int FORM_NONE = 0;
         static final int FORM_VARIABLE = 1;
@@ -1060,6 +1043,7 @@ public final class FrostHouse {
         static final int BY_OBJECT = 2;
         static final int VARIABLE_ROOM = MOST_TEXT / 4;
         static final int STACK_ROOM = MOST_TEXT;
+        // In the order of their numbers; what has two is told twice.
         static final String BUILT_INS = "print print wait wait notify all sleep interrupt interrupted join hash time register open close checkpoint failures failure intern len len arg me ";
         static final int WANTS_ANY = 10;
         static final int WANTS_RES = 11;
@@ -1070,14 +1054,13 @@ public final class FrostHouse {
         final Tokens tokens = new Tokens();
         final Grammar grammar = new Grammar(tokens);
         private final int[] faults = new int[KINDS];
-        private final int[] typed = new int[Tokens.ROOM];
         private final int[] variableName = new int[VARIABLE_ROOM];
         private final int[] variableType = new int[VARIABLE_ROOM];
         private final int[] stackType = new int[STACK_ROOM];
         private Program program;
         private int at;
         private int member;
-        private int method;
+        private int start;
         private int inClass;
         private int count;
         private int variables;
@@ -1178,10 +1161,10 @@ public final class FrostHouse {
                 if (isMuch) {
                     note(4, tokens.place[name]);
                 }
-                typed[grammar.memberType[i]] = typeAt(grammar.memberType[i]);
+                tokens.typed[grammar.memberType[i]] = typeAt(grammar.memberType[i]);
                 for (int k = 0; k < grammar.memberParameters[i]; k++) {
                     int type = name + 2 + 3 * k;
-                    typed[type] = typeAt(type);
+                    tokens.typed[type] = typeAt(type);
                 }
             }
         }
@@ -1248,14 +1231,14 @@ public final class FrostHouse {
                     declare(NONE, T_CLASS + inClass);
                 }
                 for (int k = 0; k < parameters; k++) {
-                    declare(name + 3 + 3 * k, typed[name + 2 + 3 * k]);
+                    declare(name + 3 + 3 * k, tokens.typed[name + 2 + 3 * k]);
                     if (k >= MOST_PARAMETERS) {
                         note(4, tokens.place[name + 3 + 3 * k]);
                     }
                 }
                 at = parameters == 0 ? name + 3 : name + 2 + 3 * parameters;
                 block();
-                int gives = typed[grammar.memberType[i]];
+                int gives = tokens.typed[grammar.memberType[i]];
                 if (gives != T_VOID) {
                     emit(gives == T_INT ? OP_INT : OP_NULL, 0);
                     push(gives == T_INT ? T_INT : T_NULL);
@@ -1274,7 +1257,7 @@ public final class FrostHouse {
                     if (isHere && tokens.kind[name + 1] == Tokens.ASSIGN) {
                         at = name + 2;
                         int type = value(expression(1));
-                        if (!fits(type, typed[grammar.memberType[i]])) {
+                        if (!fits(type, tokens.typed[grammar.memberType[i]])) {
                             note(3, tokens.place[name + 1]);
                         }
                         emit(OP_SETSTATIC, grammar.memberNumber[i]);
@@ -1286,10 +1269,11 @@ public final class FrostHouse {
             }
         }
 
+        // Without a start nothing is kept: there are more methods than there may be.
         private void begin(int itsMember, int itsClass, int itsNumber) {
             member = itsMember;
             inClass = itsClass;
-            method = itsNumber;
+            start = itsNumber >= ALL_METHODS ? NONE : itsNumber == 0 ? 0 : program.behind(itsNumber - 1);
             count = 0;
             variables = 0;
             mostVariables = 0;
@@ -1302,14 +1286,16 @@ public final class FrostHouse {
             if (count > MOST_CODE || mostStack > MOST_STACK) {
                 note(4, tokens.place[name]);
             }
-            if (method < ALL_METHODS) {
-                int base = method * Program.METHOD_FACTS;
+            int m = member == NONE ? grammar.methods + inClass : grammar.memberNumber[member];
+            if (m < ALL_METHODS) {
+                int base = m * Program.METHOD_FACTS;
                 program.methodFacts[base] = inClass;
                 program.methodFacts[base + Program.IS_STATIC] = isStatic ? 1 : 0;
                 program.methodFacts[base + Program.PARAMETERS] = parameters;
                 program.methodFacts[base + Program.VARIABLES] = mostVariables;
                 program.methodFacts[base + Program.STACK] = mostStack;
                 program.methodFacts[base + Program.LENGTH] = Math.min(count, MOST_CODE);
+                program.methodFacts[base + Program.START] = start;
             }
         }
 
@@ -1342,7 +1328,7 @@ public final class FrostHouse {
             for (int i = 0; i < grammar.members; i++) {
                 int c = grammar.memberClass[i];
                 int number = grammar.memberNumber[i];
-                int type = typed[grammar.memberType[i]];
+                int type = tokens.typed[grammar.memberType[i]];
                 if (grammar.memberKind[i] == Grammar.FIELD) {
                     program.fieldType[c * MOST_FIELDS + number] = type;
                     program.classFacts[c * Program.CLASS_FACTS]++;
@@ -1486,7 +1472,7 @@ public final class FrostHouse {
 
         private void giveBack() {
             int word = at;
-            int gives = member == NONE ? T_VOID : typed[grammar.memberType[member]];
+            int gives = member == NONE ? T_VOID : tokens.typed[grammar.memberType[member]];
             at++;
             boolean isEmpty = tokens.kind[at] == Tokens.SEMICOLON;
             int type = isEmpty ? T_VOID : value(expression(1));
@@ -1591,7 +1577,14 @@ public final class FrostHouse {
                 int left = value(type);
                 int hole = shortcut(tokens.kind[sign]);
                 int right = value(expression(level + 1));
-                type = joined(sign, left, right, hole);
+                type = joinedType(sign, left, right);
+                if (hole == NONE) {
+                    emit(codeOf(tokens.kind[sign], left, right), 0);
+                    drop(2);
+                    push(type);
+                } else {
+                    endShortcut(tokens.kind[sign], hole);
+                }
                 level = Grammar.levelOf(tokens.kind[at]);
             }
             return type;
@@ -1615,7 +1608,7 @@ public final class FrostHouse {
             return hole;
         }
 
-        private int joined(int sign, int left, int right, int hole) {
+        private int joinedType(int sign, int left, int right) {
             form = FORM_NONE;
             int kind = tokens.kind[sign];
             boolean isKnown = left != T_UNKNOWN && right != T_UNKNOWN;
@@ -1630,16 +1623,10 @@ public final class FrostHouse {
             if (!isRight) {
                 note(3, tokens.place[sign]);
             }
-            int type = !isKnown || !isRight ? T_UNKNOWN
-                : kind == Tokens.PLUS && (left == T_TEXT || right == T_TEXT) ? T_TEXT : T_INT;
-            if (kind == Tokens.AND || kind == Tokens.OR) {
-                endShortcut(kind, hole);
-            } else {
-                emit(codeOf(kind, left, right), 0);
-                drop(2);
-                push(type);
+            if (!isKnown || !isRight) {
+                return T_UNKNOWN;
             }
-            return type;
+            return kind == Tokens.PLUS && (left == T_TEXT || right == T_TEXT) ? T_TEXT : T_INT;
         }
 
         private static boolean isAddable(int type) {
@@ -1731,9 +1718,6 @@ public final class FrostHouse {
                 type = made();
             } else if (kind == Tokens.NAME && tokens.kind[at + 1] == Tokens.OPEN) {
                 type = callAlone();
-            } else if (kind == Tokens.NAME && isClassHere()) {
-                at += 2;
-                type = behindClass(classNamed(at - 2));
             } else if (kind == Tokens.NAME) {
                 type = named();
             } else {
@@ -1770,12 +1754,6 @@ public final class FrostHouse {
             return member == NONE || grammar.memberStatic[member];
         }
 
-        /** Whether the name at hand is a class ahead of a point, and nothing that hides it. */
-        private boolean isClassHere() {
-            return tokens.kind[at + 1] == Tokens.POINT && variableNamed(at) == NONE
-                && memberNamed(inClass, at, Grammar.FIELD, Grammar.STATIC) == NONE && classNamed(at) < grammar.classes;
-        }
-
         private int variableNamed(int token) {
             for (int i = variables - 1; i >= 0; i--) {
                 if (variableName[i] != NONE && tokens.value[variableName[i]] == tokens.value[token]) {
@@ -1808,6 +1786,11 @@ public final class FrostHouse {
                 return variableType[variable];
             }
             int i = memberNamed(inClass, token, Grammar.FIELD, Grammar.STATIC);
+            int c = classNamed(token);
+            if (i == NONE && tokens.kind[at] == Tokens.POINT && c < grammar.classes) {
+                at++;
+                return behindClass(c);
+            }
             if (i != NONE && grammar.memberKind[i] == Grammar.STATIC) {
                 return staticValue(i);
             }
@@ -1823,7 +1806,7 @@ public final class FrostHouse {
         }
 
         private int staticValue(int i) {
-            int type = typed[grammar.memberType[i]];
+            int type = tokens.typed[grammar.memberType[i]];
             emit(OP_STATIC, grammar.memberNumber[i]);
             push(type);
             form = FORM_STATIC;
@@ -1832,7 +1815,7 @@ public final class FrostHouse {
         }
 
         private int fieldValue(int i) {
-            int type = typed[grammar.memberType[i]];
+            int type = tokens.typed[grammar.memberType[i]];
             emit(OP_FIELD, grammar.memberNumber[i]);
             drop(1);
             push(type);
@@ -2002,7 +1985,7 @@ public final class FrostHouse {
             if (!isRight) {
                 note(3, tokens.place[name]);
             }
-            int type = isRight ? typed[grammar.memberType[i]] : T_UNKNOWN;
+            int type = isRight ? tokens.typed[grammar.memberType[i]] : T_UNKNOWN;
             emit(OP_CALL, grammar.memberNumber[i]);
             drop(given + (hasObject ? 1 : 0));
             if (type == T_VOID) {
@@ -2031,7 +2014,7 @@ public final class FrostHouse {
                 return false;
             }
             for (int k = 0; k < given; k++) {
-                if (!fits(stackType[base + k], typed[grammar.memberName[i] + 2 + 3 * k])) {
+                if (!fits(stackType[base + k], tokens.typed[grammar.memberName[i] + 2 + 3 * k])) {
                     return false;
                 }
             }
@@ -2069,7 +2052,7 @@ public final class FrostHouse {
         }
 
         private void emit(int code, int number) {
-            if (method < ALL_METHODS && count < MOST_CODE) {
+            if (start != NONE && count < MOST_CODE && start + count < Program.CODE_ROOM) {
                 long variableTypes = 0;
                 for (int i = 0; i < variables && i < MOST_VARIABLES; i++) {
                     variableTypes |= (long) (variableType[i] & 15) << 4 * i;
@@ -2078,7 +2061,7 @@ public final class FrostHouse {
                 for (int i = 0; i < stack && i < MOST_STACK; i++) {
                     stackTypes |= (long) (stackType[i] & 15) << 4 * i;
                 }
-                int x = method * MOST_CODE + count;
+                int x = start + count;
                 program.code[x] = code;
                 program.number[x] = number;
                 program.handler[x] = NONE;
@@ -2090,21 +2073,22 @@ public final class FrostHouse {
         }
 
         private void setCode(int i, int code) {
-            if (method < ALL_METHODS && i >= 0 && i < MOST_CODE) {
-                program.code[method * MOST_CODE + i] = code;
+            if (start != NONE && i >= 0 && i < MOST_CODE && start + i < Program.CODE_ROOM) {
+                program.code[start + i] = code;
             }
         }
 
         private void setNumber(int i, int number) {
-            if (method < ALL_METHODS && i < MOST_CODE) {
-                program.number[method * MOST_CODE + i] = number;
+            if (start != NONE && i < MOST_CODE && start + i < Program.CODE_ROOM) {
+                program.number[start + i] = number;
             }
         }
 
         // A try within has set its own handlers ahead of the one around it.
         private void setHandler(int i, int handler) {
-            if (method < ALL_METHODS && i < MOST_CODE && program.handler[method * MOST_CODE + i] == NONE) {
-                program.handler[method * MOST_CODE + i] = handler;
+            boolean isKept = start != NONE && i < MOST_CODE && start + i < Program.CODE_ROOM;
+            if (isKept && program.handler[start + i] == NONE) {
+                program.handler[start + i] = handler;
             }
         }
 
@@ -2123,17 +2107,20 @@ public final class FrostHouse {
 
     /** A text made to instructions, with what stands ahead of each: variables, stack, syncs. */
     private static final class Program {
-        static final int METHOD_FACTS = 6;
+        static final int METHOD_FACTS = 7;
         static final int IS_STATIC = 1;
         static final int PARAMETERS = 2;
         static final int VARIABLES = 3;
         static final int STACK = 4;
         static final int LENGTH = 5;
+        static final int START = 6;
         static final int CLASS_FACTS = 5;
         static final int STATICS = 1;
         static final int IS_RES = 2;
         static final int FREEZE = 3;
         static final int THAW = 4;
+        // No text makes more: three bytes, such as ||f with a field f, make seven instructions at the most.
+        static final int CODE_ROOM = MOST_TEXT * 7 / 3 + 100;
         static final int[] BUILT_IN_SIZES = {1, 1, 1, 2, 1, 1, 1, 1, 0, 1, 1, 0, 1, 0, 1, 0, 0, 1, 1, 1, 1, 0, 0};
 
         final byte[] text = new byte[MOST_TEXT];
@@ -2144,12 +2131,12 @@ public final class FrostHouse {
         final int[] staticClass = new int[MOST_STATICS];
         final int[] stringPlace = new int[MOST_STRINGS];
         final int[] stringSize = new int[MOST_STRINGS];
-        final int[] code = new int[ALL_METHODS * MOST_CODE];
-        final int[] number = new int[ALL_METHODS * MOST_CODE];
-        final int[] handler = new int[ALL_METHODS * MOST_CODE];
-        final int[] stand = new int[ALL_METHODS * MOST_CODE];
-        final long[] variableTypes = new long[ALL_METHODS * MOST_CODE];
-        final long[] stackTypes = new long[ALL_METHODS * MOST_CODE];
+        final int[] code = new int[CODE_ROOM];
+        final int[] number = new int[CODE_ROOM];
+        final int[] handler = new int[CODE_ROOM];
+        final int[] stand = new int[CODE_ROOM];
+        final long[] variableTypes = new long[CODE_ROOM];
+        final long[] stackTypes = new long[CODE_ROOM];
         int length;
         int classes;
         int methods;
@@ -2164,6 +2151,15 @@ public final class FrostHouse {
 
         int allMethods() {
             return methods + classes;
+        }
+
+        /** The index of a method's instruction in the rows of all. */
+        int at(int m, int i) {
+            return methodFacts[m * METHOD_FACTS + START] + i;
+        }
+
+        int behind(int m) {
+            return methodFacts[m * METHOD_FACTS + START] + methodFacts[m * METHOD_FACTS + LENGTH];
         }
 
         int methodFact(int m, int fact) {
@@ -2236,14 +2232,15 @@ public final class FrostHouse {
         }
 
         int tellMethod(int m, int what) {
-            if (what >= 0 && what < METHOD_FACTS) {
+            if (what >= 0 && what <= LENGTH) {
                 return methodFacts[m * METHOD_FACTS + what];
             }
             int i = what >= 1000 ? what - 1000 : what - 100;
             if (what < 100 || i >= methodFacts[m * METHOD_FACTS + LENGTH]) {
                 return NONE;
             }
-            return what >= 1000 ? number[m * MOST_CODE + i] : code[m * MOST_CODE + i];
+            int x = methodFacts[m * METHOD_FACTS + START] + i;
+            return what >= 1000 ? number[x] : code[x];
         }
     }
 
@@ -2264,6 +2261,8 @@ public final class FrostHouse {
         final int[] interned = new int[MOST_OBJECTS];
         final int[] registered = new int[MOST_RESOURCES];
         final int[] list = new int[MOST_RESOURCES];
+        final int[] statics = new int[MOST_STATICS];
+        int seed;
         int reached;
         int internedCount;
         int registeredCount;
@@ -2273,6 +2272,8 @@ public final class FrostHouse {
         void clear() {
             Arrays.fill(kind, FREE);
             Arrays.fill(number, 0);
+            Arrays.fill(statics, 0);
+            seed = 1;
             internedCount = 0;
             registeredCount = 0;
             listCount = 0;
@@ -2430,10 +2431,6 @@ public final class FrostHouse {
             return t * MOST_FRAMES + Math.max(frames[t], 1) - 1;
         }
 
-        int instruction(int f) {
-            return method[f] * MOST_CODE + pc[f];
-        }
-
         boolean isReady(int t) {
             return state[t] == READY || state[t] == TO_THROW;
         }
@@ -2531,14 +2528,12 @@ public final class FrostHouse {
         final byte[] out = new byte[MOST_OUT];
         final int[] classState = new int[MOST_CLASSES];
         final int[] classThread = new int[MOST_CLASSES];
-        final int[] statics = new int[MOST_STATICS];
         final int[] failures = new int[MOST_FAILURES];
         int status;
         int outCount;
         int failureCount;
         int handles;
         int quantum;
-        int seed;
         int hand;
         int steps;
         int arg;
@@ -2559,12 +2554,10 @@ public final class FrostHouse {
             threads.clear();
             Arrays.fill(classState, CLASS_NEW);
             Arrays.fill(classThread, NONE);
-            Arrays.fill(statics, 0);
             status = GOES_ON;
             outCount = 0;
             failureCount = 0;
             handles = 0;
-            seed = 1;
             hand = 0;
             steps = 0;
             arg = 0;
@@ -2603,7 +2596,7 @@ public final class FrostHouse {
         void trace() {
             heap.forget();
             for (int s = 0; s < program.statics; s++) {
-                heap.touch(program.staticType[s] == T_INT ? 0 : statics[s]);
+                heap.touch(program.staticType[s] == T_INT ? 0 : heap.statics[s]);
             }
             for (int t = 0; t < threads.count; t++) {
                 for (int k = threads.frames[t] - 1; k >= 0; k--) {
@@ -2623,7 +2616,7 @@ public final class FrostHouse {
         }
 
         private void traceFrame(int f) {
-            int x = threads.instruction(f);
+            int x = standing(f);
             int variables = program.variablesAt(x);
             for (int i = 0; i < variables; i++) {
                 heap.touch(program.variableTypeAt(x, i) == T_INT ? 0 : threads.variable[f * MOST_VARIABLES + i]);
@@ -2644,6 +2637,11 @@ public final class FrostHouse {
             for (int i = 0; i < heap.size[o]; i++) {
                 heap.touch(program.fieldType[c * MOST_FIELDS + i] == T_INT ? 0 : heap.cell[o * MOST_BYTES + i]);
             }
+        }
+
+        /** The index of the instruction at which a frame stands. */
+        int standing(int f) {
+            return program.methodFacts[threads.method[f] * Program.METHOD_FACTS + Program.START] + threads.pc[f];
         }
 
         void putOut(int c) {
@@ -2728,7 +2726,7 @@ public final class FrostHouse {
                 case 4:
                     return threads.stackSize[f];
                 case 5:
-                    return program.variablesAt(threads.instruction(f));
+                    return program.variablesAt(standing(f));
                 case 6:
                     return threads.heldSize[f];
                 default:
@@ -2750,7 +2748,8 @@ public final class FrostHouse {
             if (s < 0 || s >= program.statics) {
                 return NONE;
             }
-            return program.staticType[s] == T_INT ? statics[s] : statics[s] == 0 ? 0 : 1;
+            int v = heap.statics[s];
+            return program.staticType[s] == T_INT ? v : v == 0 ? 0 : 1;
         }
     }
 
@@ -2806,6 +2805,9 @@ public final class FrostHouse {
 
         /** Brings the next thread to hand, if it is due; false if none is ready and none has a time. */
         private boolean choose() {
+            if (threads.isReady(machine.hand) && machine.steps < machine.quantum) {
+                return true;
+            }
             int next = nextReady();
             // Each turn wakes one thread at the least.
             for (int i = 0; i < MOST_THREADS && next == NONE; i++) {
@@ -2820,10 +2822,8 @@ public final class FrostHouse {
             if (next == NONE) {
                 return false;
             }
-            if (!threads.isReady(machine.hand) || machine.steps >= machine.quantum) {
-                machine.hand = next;
-                machine.steps = 0;
-            }
+            machine.hand = next;
+            machine.steps = 0;
             return true;
         }
 
@@ -2853,9 +2853,10 @@ public final class FrostHouse {
         }
 
         private void perform(int t, int f) {
-            int x = threads.instruction(f);
+            int x = machine.standing(f);
             int c = program.wantedAt(x);
-            if (c != NONE && machine.classState[c] != CLASS_DONE && !(machine.classState[c] == CLASS_BEGUN && machine.classThread[c] == t)) {
+            boolean isBegunHere = c != NONE && machine.classState[c] == CLASS_BEGUN && machine.classThread[c] == t;
+            if (c != NONE && machine.classState[c] != CLASS_DONE && !isBegunHere) {
                 want(t, c);
                 return;
             }
@@ -2981,10 +2982,10 @@ public final class FrostHouse {
                     threads.pc[f]++;
                     break;
                 case OP_STATIC:
-                    threads.give(f, 0, machine.statics[n]);
+                    threads.give(f, 0, heap.statics[n]);
                     break;
                 case OP_SETSTATIC:
-                    machine.statics[n] = threads.pop(f);
+                    heap.statics[n] = threads.pop(f);
                     threads.pc[f]++;
                     break;
                 case OP_FIELD:
@@ -3153,7 +3154,7 @@ public final class FrostHouse {
             int below = threads.top(t);
             if (m >= program.methods) {
                 endClass(m - program.methods, CLASS_DONE);
-            } else if (program.code[threads.instruction(below)] == OP_CALL) {
+            } else if (program.code[machine.standing(below)] == OP_CALL) {
                 if (code == OP_GIVE) {
                     threads.push(below, v);
                 }
@@ -3166,18 +3167,16 @@ public final class FrostHouse {
             threads.frames[t]--;
         }
 
+        /** The latest frame keeps its first monitors alone; the others are released once each, the latest first. */
         private void releaseDownTo(int t, int kept) {
             int f = threads.top(t);
             for (int i = threads.heldSize[f]; i > kept; i--) {
                 threads.heldSize[f]--;
-                release(threads.held[f * MOST_HELD + threads.heldSize[f]]);
-            }
-        }
-
-        private void release(int o) {
-            heap.often[o]--;
-            if (heap.often[o] <= 0) {
-                handOver(o);
+                int o = threads.held[f * MOST_HELD + threads.heldSize[f]];
+                heap.often[o]--;
+                if (heap.often[o] <= 0) {
+                    handOver(o);
+                }
             }
         }
 
@@ -3238,11 +3237,11 @@ public final class FrostHouse {
             int v = value;
             for (int i = 0; i <= MOST_FRAMES && threads.frames[t] > 0; i++) {
                 int f = threads.top(t);
-                int x = threads.instruction(f);
+                int x = machine.standing(f);
                 int m = threads.method[f];
                 if (program.handler[x] != NONE) {
                     int to = program.handler[x];
-                    releaseDownTo(t, program.syncsAt(m * MOST_CODE + to));
+                    releaseDownTo(t, program.syncsAt(program.at(m, to)));
                     threads.stackSize[f] = 0;
                     threads.push(f, v);
                     threads.pc[f] = to;
@@ -3252,7 +3251,7 @@ public final class FrostHouse {
                 if (m >= program.methods) {
                     endClass(m - program.methods, CLASS_FAILED);
                     v = -13;
-                } else if (threads.frames[t] > 0 && program.isBuiltIn(threads.instruction(threads.top(t)), B_CHECKPOINT)) {
+                } else if (threads.frames[t] > 0 && program.isBuiltIn(machine.standing(threads.top(t)), B_CHECKPOINT)) {
                     machine.addFailure(v);
                     return;
                 }
@@ -3383,8 +3382,8 @@ public final class FrostHouse {
 
         private int hashOf(int o) {
             if (heap.hash[o] == 0) {
-                machine.seed = machine.seed * 1103515245 + 12345;
-                heap.hash[o] = machine.seed >>> 1 | 1;
+                heap.seed = heap.seed * 1103515245 + 12345;
+                heap.hash[o] = heap.seed >>> 1 | 1;
             }
             return heap.hash[o];
         }
@@ -3606,37 +3605,53 @@ public final class FrostHouse {
         }
     }
 
-    /** Tells a machine's state as an image. */
+    /** Tells a machine's state as an image, or holds it against one. */
     private static final class Writer {
         private byte[] row;
+        private int length;
         private int at;
+        private boolean isHeldAgainst;
+        private int otherPlace;
         private Machine machine;
         private Program program;
         private Heap heap;
         private Threads threads;
 
-        /** How many bytes the image has. */
-        int write(Machine itsMachine, byte[] itsRow) {
+        Writer() {
+            row = new byte[0];
+        }
+
+        /**
+         * Writes the image: how many bytes it has; or, if it is held against one with a right CRC,
+         * the first byte there that would be another one, NONE without.
+         */
+        int tellAll(Machine itsMachine, byte[] itsRow, int itsLength, boolean isToHold) {
             machine = itsMachine;
             program = itsMachine.program;
             heap = itsMachine.heap;
             threads = itsMachine.threads;
             row = itsRow;
+            length = itsLength;
+            isHeldAgainst = isToHold;
+            otherPlace = NONE;
             at = 0;
             machine.trace();
-            one(70);
-            one(82);
-            one(1);
-            four(0);
+            add(1, 70);
+            add(1, 82);
+            add(1, 1);
+            at += 4;
             for (int section = 1; section <= SECTIONS; section++) {
-                one(section);
+                add(1, section);
                 int head = at;
-                four(0);
+                at += 4;
                 contents(section);
-                fourBack(head, at - head - 4);
+                set(head, 4, at - head - 4);
             }
-            fourBack(3, at + CRC_SIZE);
-            four(crcOf(row, at));
+            set(3, 4, at + CRC_SIZE);
+            if (isHeldAgainst) {
+                return otherPlace;
+            }
+            add(4, crcOf(row, Math.min(at, length)));
             return at;
         }
 
@@ -3644,14 +3659,14 @@ public final class FrostHouse {
             switch (section) {
                 case 1:
                     for (int i = 0; i < program.length && i < MOST_TEXT; i++) {
-                        one(program.text[i]);
+                        add(1, program.text[i]);
                     }
                     break;
                 case 2:
-                    four(machine.seed);
-                    one(machine.quantum);
-                    one(machine.hand);
-                    one(machine.steps);
+                    add(4, heap.seed);
+                    add(1, machine.quantum);
+                    add(1, machine.hand);
+                    add(1, machine.steps);
                     break;
                 case 3:
                     classes();
@@ -3666,7 +3681,7 @@ public final class FrostHouse {
                     monitors();
                     break;
                 case 7:
-                    one(threads.count);
+                    add(1, threads.count);
                     for (int t = 0; t < threads.count; t++) {
                         oneThread(t);
                     }
@@ -3679,30 +3694,30 @@ public final class FrostHouse {
 
         private void classes() {
             for (int c = 0; c < program.classes; c++) {
-                one(machine.classState[c]);
+                add(1, machine.classState[c]);
                 if (machine.classState[c] == CLASS_BEGUN) {
-                    one(machine.classThread[c]);
+                    add(1, machine.classThread[c]);
                 }
             }
             for (int s = 0; s < program.statics; s++) {
-                value(program.staticType[s], machine.statics[s]);
+                value(program.staticType[s], heap.statics[s]);
             }
         }
 
         private void objects() {
-            two(heap.reached);
+            add(2, heap.reached);
             for (int n = 1; n <= heap.reached; n++) {
                 int o = heap.order[n];
                 int kind = heap.kind[o];
-                one(kind);
-                four(heap.hash[o]);
+                add(1, kind);
+                add(4, heap.hash[o]);
                 if (kind == KIND_TEXT || kind == KIND_ROW) {
-                    one(heap.size[o]);
+                    add(1, heap.size[o]);
                 }
                 for (int i = 0; i < heap.size[o]; i++) {
                     int v = heap.cell[o * MOST_BYTES + i];
                     if (kind == KIND_TEXT) {
-                        one(v);
+                        add(1, v);
                     } else {
                         value(kind == KIND_ROW ? T_INT : program.fieldType[kind * MOST_FIELDS + i], v);
                     }
@@ -3715,13 +3730,13 @@ public final class FrostHouse {
             for (int n = 1; n <= heap.reached; n++) {
                 found += isMonitor(heap.order[n]) ? 1 : 0;
             }
-            one(found);
+            add(1, found);
             for (int n = 1; n <= heap.reached; n++) {
                 int o = heap.order[n];
                 if (isMonitor(o)) {
-                    one(n);
-                    one(heap.owner[o]);
-                    two(heap.often[o]);
+                    add(1, n);
+                    add(1, heap.owner[o]);
+                    add(2, heap.often[o]);
                     line(o, false);
                     line(o, true);
                 }
@@ -3735,36 +3750,36 @@ public final class FrostHouse {
         private void line(int o, boolean waiting) {
             int place = at;
             int found = 0;
-            one(0);
+            at++;
             int t = threads.firstBehind(o, waiting, 0);
             for (int i = 0; i < MOST_THREADS && t != NONE; i++) {
-                one(t);
+                add(1, t);
                 found++;
                 t = threads.firstBehind(o, waiting, threads.stamp[t]);
             }
-            row[place] = (byte) found;
+            set(place, 1, found);
         }
 
         private void oneThread(int t) {
-            one(threads.state[t]);
-            one(threads.interrupted[t] ? 1 : 0);
-            four(threads.deadBy[t]);
-            four(threads.hasTime(t) ? (int) (threads.time[t] - machine.clock) : 0);
-            one(heap.number[threads.object[t]]);
-            two(threads.had[t]);
-            one(threads.outcome[t]);
-            one(threads.joined[t]);
-            one(threads.wanted[t]);
-            one(threads.frames[t]);
+            add(1, threads.state[t]);
+            add(1, threads.interrupted[t] ? 1 : 0);
+            add(4, threads.deadBy[t]);
+            add(4, threads.hasTime(t) ? (int) (threads.time[t] - machine.clock) : 0);
+            add(1, heap.number[threads.object[t]]);
+            add(2, threads.had[t]);
+            add(1, threads.outcome[t]);
+            add(1, threads.joined[t]);
+            add(1, threads.wanted[t]);
+            add(1, threads.frames[t]);
             for (int k = threads.frames[t] - 1; k >= 0; k--) {
                 frame(t * MOST_FRAMES + k);
             }
         }
 
         private void frame(int f) {
-            int x = threads.instruction(f);
-            one(threads.method[f]);
-            two(threads.pc[f]);
+            int x = machine.standing(f);
+            add(1, threads.method[f]);
+            add(2, threads.pc[f]);
             int variables = program.variablesAt(x);
             for (int i = 0; i < variables; i++) {
                 value(program.variableTypeAt(x, i), threads.variable[f * MOST_VARIABLES + i]);
@@ -3773,59 +3788,57 @@ public final class FrostHouse {
                 value(program.stackTypeAt(x, i), threads.stack[f * MOST_STACK + i]);
             }
             for (int i = 0; i < threads.heldSize[f]; i++) {
-                one(heap.number[threads.held[f * MOST_HELD + i]]);
+                add(1, heap.number[threads.held[f * MOST_HELD + i]]);
             }
         }
 
         private void checkpoint() {
-            one(machine.pointThread);
-            one(machine.pointFrame);
-            one(machine.pointPhase);
-            one(machine.pointCalled);
+            add(1, machine.pointThread);
+            add(1, machine.pointFrame);
+            add(1, machine.pointPhase);
+            add(1, machine.pointCalled);
             numbers(heap.list, 0, heap.listCount);
-            one(heap.registeredReached());
+            add(1, heap.registeredReached());
             for (int i = 0; i < heap.registeredCount; i++) {
                 int n = heap.number[heap.registered[i]];
                 if (n != 0) {
-                    one(n);
+                    add(1, n);
                 }
             }
-            one(machine.failureCount);
+            add(1, machine.failureCount);
             for (int i = 0; i < machine.failureCount; i++) {
-                four(machine.failures[i]);
+                add(4, machine.failures[i]);
             }
         }
 
         private void numbers(int[] list, int from, int to) {
-            one(to - from);
+            add(1, to - from);
             for (int i = from; i < to; i++) {
-                one(heap.number[list[i]]);
+                add(1, heap.number[list[i]]);
             }
         }
 
         private void value(int type, int v) {
-            four(type == T_INT ? v : heap.number[v]);
+            add(4, type == T_INT ? v : heap.number[v]);
         }
 
-        private void one(int v) {
-            if (at < row.length) {
-                row[at] = (byte) v;
-                at++;
+        private void add(int bytes, int v) {
+            set(at, bytes, v);
+            at += bytes;
+        }
+
+        // What is told last, a length, stands ahead of what it tells: so the least place counts, not the first one found.
+        private void set(int place, int bytes, int v) {
+            for (int i = 0; i < bytes; i++) {
+                int to = place + i;
+                byte told = (byte) (v >> 8 * (bytes - 1 - i));
+                boolean isThere = to >= 0 && to < length && to < row.length;
+                if (!isHeldAgainst && isThere) {
+                    row[to] = told;
+                } else if (isHeldAgainst && (!isThere || row[to] != told)) {
+                    otherPlace = otherPlace == NONE ? to : Math.min(otherPlace, to);
+                }
             }
-        }
-
-        private void two(int v) {
-            one(v >> 8);
-            one(v);
-        }
-
-        private void four(int v) {
-            two(v >> 16);
-            two(v);
-        }
-
-        private void fourBack(int place, int v) {
-            setFour(row, place, v);
         }
     }
 
@@ -3916,7 +3929,7 @@ public final class FrostHouse {
         private void contents(int section) {
             switch (section) {
                 case 2:
-                    machine.seed = (int) number(4, 0, 0xFFFFFFFFL);
+                    heap.seed = (int) number(4, 0, MOST_FOUR);
                     machine.quantum = (int) number(1, 1, MOST_QUANTUM);
                     machine.hand = (int) number(1, 0, MOST_THREADS - 1);
                     machine.steps = (int) number(1, 0, machine.quantum);
@@ -3940,14 +3953,17 @@ public final class FrostHouse {
                     }
                     break;
                 case 7:
-                    int count = (int) number(1, 1, MOST_THREADS);
-                    for (int t = 0; t < count && badPlace == NONE; t++) {
-                        oneThread(threads.add());
-                    }
+                    readThreads((int) number(1, 1, MOST_THREADS));
                     break;
                 default:
                     checkpoint();
                     break;
+            }
+        }
+
+        private void readThreads(int count) {
+            for (int t = 0; t < count && badPlace == NONE; t++) {
+                oneThread(threads.add());
             }
         }
 
@@ -3957,13 +3973,13 @@ public final class FrostHouse {
                 machine.classThread[c] = machine.classState[c] == CLASS_BEGUN ? one(MOST_THREADS - 1) : NONE;
             }
             for (int s = 0; s < program.statics; s++) {
-                machine.statics[s] = value(program.staticType[s]);
+                heap.statics[s] = value(program.staticType[s]);
             }
         }
 
         private void object(int o) {
             int kind = kindOfObject();
-            int hash = (int) number(4, 0, 0xFFFFFFFFL);
+            int hash = (int) number(4, 0, MOST_FOUR);
             boolean isText = kind == KIND_TEXT;
             boolean isRow = kind == KIND_ROW;
             int size = isText ? one(MOST_BYTES) : isRow ? one(MOST_INTS) : program.classFact(kind, 0);
@@ -3997,8 +4013,8 @@ public final class FrostHouse {
         private void oneThread(int t) {
             threads.state[t] = one(TO_THROW);
             threads.interrupted[t] = one(1) == 1;
-            threads.deadBy[t] = (int) number(4, 0, 0xFFFFFFFFL);
-            threads.time[t] = number(4, 0, Integer.MAX_VALUE);
+            threads.deadBy[t] = (int) number(4, 0, MOST_FOUR);
+            threads.time[t] = number(4, 0, MOST_INT);
             threads.object[t] = one(objects);
             threads.had[t] = two(0xFFFF);
             threads.outcome[t] = one(BY_INTERRUPT);
@@ -4014,7 +4030,7 @@ public final class FrostHouse {
             int f = t * MOST_FRAMES + k;
             threads.method[f] = one(program.allMethods() - 1);
             threads.pc[f] = two(program.methodFact(threads.method[f], Program.LENGTH) - 1);
-            int x = threads.instruction(f);
+            int x = machine.standing(f);
             int variables = program.variablesAt(x);
             for (int i = 0; i < variables; i++) {
                 threads.variable[f * MOST_VARIABLES + i] = value(program.variableTypeAt(x, i));
@@ -4050,7 +4066,7 @@ public final class FrostHouse {
             heap.registeredCount = numbers(heap.registered, MOST_RESOURCES);
             machine.failureCount = one(MOST_FAILURES);
             for (int i = 0; i < machine.failureCount; i++) {
-                machine.failures[i] = (int) number(4, 0, 0xFFFFFFFFL);
+                machine.failures[i] = (int) number(4, 0, MOST_FOUR);
             }
         }
 
@@ -4063,7 +4079,7 @@ public final class FrostHouse {
         }
 
         private int value(int type) {
-            return (int) number(4, 0, type == T_INT ? 0xFFFFFFFFL : objects);
+            return (int) number(4, 0, type == T_INT ? MOST_FOUR : objects);
         }
 
         private int one(int most) {
@@ -4176,7 +4192,7 @@ public final class FrostHouse {
 
         private boolean staticsFit() {
             for (int s = 0; s < program.statics; s++) {
-                if (!isOf(program.staticType[s], machine.statics[s])) {
+                if (!isOf(program.staticType[s], heap.statics[s])) {
                     return false;
                 }
             }
@@ -4207,7 +4223,7 @@ public final class FrostHouse {
         }
 
         private boolean frameFits(int f) {
-            int x = threads.instruction(f);
+            int x = machine.standing(f);
             int variables = program.variablesAt(x);
             for (int i = 0; i < variables; i++) {
                 if (!isOf(program.variableTypeAt(x, i), threads.variable[f * MOST_VARIABLES + i])) {
@@ -4260,7 +4276,7 @@ public final class FrostHouse {
         }
 
         private boolean standsAbove(int t, int f) {
-            int x = threads.instruction(f - 1);
+            int x = machine.standing(f - 1);
             int m = threads.method[f];
             if (m >= program.methods) {
                 return program.wantedAt(x) == m - program.methods;
@@ -4282,7 +4298,7 @@ public final class FrostHouse {
 
         private boolean statesStand() {
             for (int t = 0; t < threads.count; t++) {
-                if (threads.state[t] != DEAD && !stateStands(t, threads.instruction(threads.top(t)))) {
+                if (threads.state[t] != DEAD && !stateStands(t, machine.standing(threads.top(t)))) {
                     return false;
                 }
             }
@@ -4300,8 +4316,7 @@ public final class FrostHouse {
                 case SLEEPS:
                     return program.isBuiltIn(x, B_SLEEP);
                 case JOINS:
-                    int n = threads.joined[t];
-                    return program.isBuiltIn(x, B_JOIN) && n != NONE && n < threads.count && threads.state[n] != DEAD;
+                    return program.isBuiltIn(x, B_JOIN) && isAlive(threads.joined[t]);
                 case WAITS_CLASS:
                     return threads.wanted[t] != NONE && program.wantedAt(x) == threads.wanted[t];
                 case TO_THROW:
@@ -4311,8 +4326,12 @@ public final class FrostHouse {
             }
         }
 
+        private boolean isAlive(int t) {
+            return t >= 0 && t < threads.count && threads.state[t] != DEAD;
+        }
+
         private boolean isBehindWait(int t) {
-            return threads.state[t] == BLOCKED && program.isWait(threads.instruction(threads.top(t)));
+            return threads.state[t] == BLOCKED && program.isWait(machine.standing(threads.top(t)));
         }
 
         /** Each that is blocked or waits stands just once in the line of its object, no other stands anywhere. */
@@ -4366,7 +4385,7 @@ public final class FrostHouse {
             if (owner == NONE) {
                 return often == 0 && reader.queueSize[i] == 0;
             }
-            if (owner >= threads.count || threads.state[owner] == DEAD) {
+            if (!isAlive(owner)) {
                 return false;
             }
             boolean isInLine = timesIn(reader.queue, i, reader.queueSize[i], owner) > 0
@@ -4441,10 +4460,10 @@ public final class FrostHouse {
             if (t == NONE) {
                 return k == 0 && machine.pointPhase == PHASE_NONE && machine.pointCalled == 0 && heap.listCount == 0;
             }
-            if (machine.pointPhase == PHASE_NONE || t >= threads.count || threads.state[t] == DEAD || k >= threads.frames[t]) {
+            if (machine.pointPhase == PHASE_NONE || !isAlive(t) || k >= threads.frames[t]) {
                 return false;
             }
-            boolean isThere = program.isBuiltIn(threads.instruction(t * MOST_FRAMES + k), B_CHECKPOINT);
+            boolean isThere = program.isBuiltIn(machine.standing(t * MOST_FRAMES + k), B_CHECKPOINT);
             return isThere && machine.pointCalled <= heap.listCount;
         }
 
