@@ -704,13 +704,15 @@ public final class FrostHouse {
             badPlace = NONE;
             at = 0;
             depth = 0;
-            do {
+            boolean more = true;
+            for (int c = 0; c < CLASS_ROOM && more; c++) {
                 readClassHead();
                 for (int i = 0; i < MEMBER_ROOM && isGood() && peek() != Tokens.CLOSE_BRACE; i++) {
                     readMember();
                 }
                 need(Tokens.CLOSE_BRACE);
-            } while (isGood() && peek() != Tokens.END && classes < CLASS_ROOM);
+                more = isGood() && peek() != Tokens.END;
+            }
         }
 
         private void readClassHead() {
