@@ -165,12 +165,12 @@ public final class FaultTest {
         check("class A { static void main() { " + times("if (1) ", 17) + "print(1); } }", 0);
         check("class A { static void main() { " + times("if (1) ", 18) + "^print(1); } }".replace("^print(1)", "print^(1)"), 1);
         check("class A { static void main() { " + times("while (1) ", 18) + "return; } }", 0);
-        check("class A { static void main() { " + times("while (1) ", 19) + "^return; } }", 1);
+        check("class A { static void main() { " + times("while (1) ", 18) + "while ^(1) return; } }", 1);
         check("class A { static void main() { " + times("if (1) { } else ", 18) + "return; } }", 0);
         check("class A { static void main() { " + times("if (1) { } else ", 18) + "^if (1) return; } }".replace("^if (1)", "if ^(1)"), 1);
         check("class A { static void main() { " + times("if (1) { } else ", 18) + "{ } } }", 0);
         check("class A { static void main() { " + times("while (1) ", 18) + "{ } } }", 0);
-        check("class A { static void main() { " + times("while (1) ", 19) + "^{ } } }", 1);
+        check("class A { static void main() { " + times("while (1) ", 18) + "{ ^{ } } } }", 1);
         check("class A { static int x = " + times("(", 19) + "1" + times(")", 19) + "; static void main() { } }", 0);
         check("class A { static int x = " + times("(", 19) + "^(1" + times(")", 20) + "; static void main() { } }", 1);
         check("class A { static void ^main() { row r = new row[3]; r" + "[r".repeat(17) + "[0]" + "]".repeat(17) + " = 1; } }", 4);
