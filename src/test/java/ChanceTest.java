@@ -9,7 +9,7 @@ public final class ChanceTest {
     private static final int[] refused = new int[8];
 
     public static void main(String[] args) {
-        int seeds = args.length > 0 ? Integer.parseInt(args[0]) : 150;
+        int seeds = args.length > 0 ? Integer.parseInt(args[0]) : 60;
         int first = args.length > 1 ? Integer.parseInt(args[1]) : 1;
         for (int seed = first; seed < first + seeds; seed++) {
             String text = new Weaver(seed).weave();
