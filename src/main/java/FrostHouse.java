@@ -2339,6 +2339,13 @@ public final class FrostHouse {
             }
         }
 
+        void addInterned(int o) {
+            if (internedCount < MOST_OBJECTS) {
+                interned[internedCount] = o;
+                internedCount++;
+            }
+        }
+
         boolean isAlike(int one, int two) {
             if (size[one] != size[two]) {
                 return false;
@@ -2936,8 +2943,7 @@ public final class FrostHouse {
                 for (int i = 0; i < program.stringSize[k]; i++) {
                     heap.addByte(o, program.text[program.stringPlace[k] + i]);
                 }
-                heap.interned[heap.internedCount] = o;
-                heap.internedCount++;
+                heap.addInterned(o);
             }
             threads.give(f, 0, o);
         }
@@ -3396,8 +3402,7 @@ public final class FrostHouse {
                     return heap.interned[i];
                 }
             }
-            heap.interned[heap.internedCount] = o;
-            heap.internedCount++;
+            heap.addInterned(o);
             return o;
         }
 
