@@ -1585,7 +1585,7 @@ public final class FrostHouse {
                     drop(2);
                     push(type);
                 } else {
-                    endShortcut(tokens.kind[sign], hole);
+                    endShortcut(tokens.kind[sign], hole, type);
                 }
                 level = Grammar.levelOf(tokens.kind[at]);
             }
@@ -1639,20 +1639,21 @@ public final class FrostHouse {
             return left == right || left == T_NULL && right != T_INT || right == T_NULL && left != T_INT;
         }
 
-        private void endShortcut(int kind, int hole) {
+        private void endShortcut(int kind, int hole, int type) {
             emit(OP_NOT, 0);
             emit(OP_NOT, 0);
-            if (kind == Tokens.OR) {
-                setNumber(hole + 2, count);
-                return;
+            int over = hole + 2;
+            if (kind == Tokens.AND) {
+                over = count;
+                emit(OP_JUMP, 0);
+                setNumber(hole, count);
+                drop(1);
+                emit(OP_INT, 0);
+                push(T_INT);
             }
-            int over = count;
-            emit(OP_JUMP, 0);
-            drop(1);
-            setNumber(hole, count);
-            emit(OP_INT, 0);
-            push(T_INT);
             setNumber(over, count);
+            drop(1);
+            push(type);
         }
 
         private static int codeOf(int kind, int left, int right) {

@@ -378,6 +378,9 @@ public final class FaultTest {
         inMain("o = (t ^- 1);", 3);
         inMain("i = o == (t ^- 1);", 3);
         inMain("i = si((t ^- 1), t);", 3);
+        inMain("i = si((t ^|| 1), t);", 3);
+        inMain("i = si(1, (1 ^|| t));", 3);
+        inMain("i = len((i ^&& t));", 3);
         inMain("i = ^si((t - 1), 2);", 3);
         inMain("i = ^si((t - 1));", 3);
         inMain("o ^= si((t - 1), t);", 3);
