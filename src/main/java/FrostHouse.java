@@ -459,6 +459,8 @@ public final class FrostHouse {
         static final int NOT = 63;
         // The order of these three lists is that of the numbers above.
         static final String WORDS = "catch class else if int new null res return row spawn static sync text this throw try void while ";
+        static final int SHORTEST_WORD = 2;
+        static final int LONGEST_WORD = 6;
         static final String PLAIN_SIGNS = "(){}[];,.";
         static final String COUNTING_SIGNS = "+-*/%";
         // Two ends more stand behind the end, so that a look ahead always finds a token.
@@ -519,7 +521,9 @@ public final class FrostHouse {
             if (stop - at > MOST_NAME) {
                 return readBad(at);
             }
-            int word = ordinal(WORDS, 0, at, stop - at);
+            // Most names are too short or too long for a word: they need no look at the list.
+            boolean canBeWord = stop - at >= SHORTEST_WORD && stop - at <= LONGEST_WORD;
+            int word = canBeWord ? ordinal(WORDS, 0, at, stop - at) : NONE;
             if (word == NONE) {
                 add(NAME, at, stop - at, spellingOf(at, stop - at, mix));
             } else {
