@@ -1044,6 +1044,7 @@ public final class FrostHouse {
         static final int FORM_ELEMENT = 4;
         static final int FORM_CALL = 5;
         static final int FORM_SPAWN = 6;
+        static final int FORM_BUILT_IN = 7;
         static final int ALONE = 0;
         static final int BY_CLASS = 1;
         static final int BY_OBJECT = 2;
@@ -1522,7 +1523,7 @@ public final class FrostHouse {
             int type = expression(1);
             if (tokens.kind[at] != Tokens.ASSIGN) {
                 at++;
-                if (form != FORM_CALL && form != FORM_SPAWN) {
+                if (form != FORM_CALL && form != FORM_SPAWN && form != FORM_BUILT_IN) {
                     note(3, tokens.place[first]);
                 }
                 if (type != T_VOID) {
@@ -1698,8 +1699,11 @@ public final class FrostHouse {
             return result;
         }
 
+        // It asks for a void method, not for a type: that its args are wrong does not matter.
         private int spawned(int word, int type) {
-            boolean isRight = form == FORM_CALL && (type == T_VOID || type == T_UNKNOWN);
+            boolean isKnown = form == FORM_CALL && formNumber != NONE;
+            boolean isVoid = isKnown && tokens.typed[grammar.memberType[formNumber]] == T_VOID;
+            boolean isRight = form == FORM_CALL && (isVoid || !isKnown);
             form = FORM_SPAWN;
             if (!isRight) {
                 note(3, tokens.place[word]);
@@ -1936,7 +1940,7 @@ public final class FrostHouse {
             emit(OP_BUILT_IN, b);
             drop(given);
             push(type);
-            form = FORM_CALL;
+            form = FORM_BUILT_IN;
             return type;
         }
 
@@ -1975,6 +1979,7 @@ public final class FrostHouse {
             drop(given + objects);
             push(T_UNKNOWN);
             form = FORM_CALL;
+            formNumber = NONE;
             return T_UNKNOWN;
         }
 
@@ -2001,6 +2006,7 @@ public final class FrostHouse {
                 push(type);
             }
             form = FORM_CALL;
+            formNumber = i;
             return type;
         }
 
