@@ -28,7 +28,7 @@ public final class RestoreTest {
         Kit.done();
     }
 
-    private static FrostHouse threads() {
+    static FrostHouse threads() {
         FrostHouse x = Kit.house(THREADS, 50);
         while (x.thread(2, 0) != 1 || x.thread(3, 0) != 5) {
             x.run(1);
@@ -36,7 +36,7 @@ public final class RestoreTest {
         return x;
     }
 
-    private static FrostHouse point(int frames) {
+    static FrostHouse point(int frames) {
         FrostHouse x = Kit.house(POINT, 50);
         while (x.about(11) != 0 || x.thread(0, 1) != frames) {
             x.run(1);
@@ -44,7 +44,7 @@ public final class RestoreTest {
         return x;
     }
 
-    private static FrostHouse waits(int state) {
+    static FrostHouse waits(int state) {
         FrostHouse x = Kit.house(WAITS, 50);
         while (x.thread(2, 0) != 3 || x.thread(1, 0) != state) {
             x.run(1);
@@ -52,7 +52,7 @@ public final class RestoreTest {
         return x;
     }
 
-    private static FrostHouse classes() {
+    static FrostHouse classes() {
         FrostHouse x = Kit.house(CLASSES, 2);
         while (x.thread(0, 0) != 6 && x.thread(1, 0) != 6) {
             x.run(1);
@@ -60,20 +60,20 @@ public final class RestoreTest {
         return x;
     }
 
-    private static void refused(String what, FrostHouse x, Consumer<Image> change, int kind, int place) {
+    static void refused(String what, FrostHouse x, Consumer<Image> change, int kind, int place) {
         Image image = Image.of(x);
         change.accept(image);
         tape(what, image.build(), kind, place);
     }
 
     /** A change of a section's byte that is refused with kind 4 at that byte, or another one. */
-    private static void number(String what, FrostHouse x, int section, int at, int v) {
+    static void number(String what, FrostHouse x, int section, int at, int v) {
         Image image = Image.of(x);
         int place = image.place(section, at);
         refused(what, x, i -> i.change(section, at, v), 4, place);
     }
 
-    private static void tape(String what, byte[] bytes, int kind, int place) {
+    static void tape(String what, byte[] bytes, int kind, int place) {
         FrostHouse y = Kit.house("class A { static void main() { print(5); } }", 1);
         Kit.tape(y, bytes);
         Kit.due(what + ": restore", y.restore(0, 0), kind);
