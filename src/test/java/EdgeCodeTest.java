@@ -1,3 +1,5 @@
+import java.util.Arrays;
+
 /** Terms 2, instructions: one test for each sentence that names an edge. */
 public final class EdgeCodeTest {
     public static void main(String[] args) {
@@ -19,6 +21,9 @@ public final class EdgeCodeTest {
         standsOfTries();
         standsOfStacks();
         mostOfEach();
+        bindings();
+        loosestEverywhere();
+        laterClasses();
         Kit.done();
     }
 
@@ -213,5 +218,78 @@ public final class EdgeCodeTest {
         Kit.due("restore", y.restore(0, 0), 0);
         y.run(100);
         Kit.due("they are all there", Kit.out(y), "10|11|");
+    }
+
+    private static int levelOf(String sign) {
+        String[] levels = {"||", "&&", "== !=", "< <= > >=", "+ -", "* / %"};
+        for (int i = 0; i < levels.length; i++) {
+            if (Arrays.asList(levels[i].split(" ")).contains(sign)) {
+                return i;
+            }
+        }
+        return -1;
+    }
+
+    private static String main(String expression) {
+        return code(Kit.house("class A { static void main() { int a = 1; int b = 2; int c = 3; a = " + expression + "; } }", 1), 0);
+    }
+
+    // "E: U's with signs between, from the loosest: || then && then == != then < <= > >= then + - then * / % , all from the left."
+    private static void bindings() {
+        String[] signs = "|| && == != < <= > >= + - * / %".split(" ");
+        for (String one : signs) {
+            for (String two : signs) {
+                String plain = "a " + one + " b " + two + " c";
+                boolean isFirst = levelOf(one) >= levelOf(two);
+                Kit.due(plain, main(plain), main(isFirst ? "(a " + one + " b) " + two + " c" : "a " + one + " (b " + two + " c)"));
+                Kit.due("not the other way: " + plain, main(plain).equals(main(isFirst ? "a " + one + " (b " + two + " c)" : "(a " + one + " b) " + two + " c")), false);
+            }
+            Kit.due("- binds tighter than " + one, main("-a " + one + " -b"), main("(-a) " + one + " (-b)"));
+            Kit.due("! binds tighter than " + one, main("!a " + one + " !b"), main("(!a) " + one + " (!b)"));
+        }
+        Kit.due("all", main("a || b && c == a < b + c * -a % b"), main("a || (b && (c == (a < (b + ((c * (-a)) % b)))))"));
+    }
+
+    // An E is as loose as can be wherever one stands.
+    private static void loosestEverywhere() {
+        String or = "3 32:4 0:1 31:7 3:1 19 19";
+        body("if (a || b) { }", or + " 32:8 35");
+        body("while (a || b) { }", or + " 32:9 31 35");
+        body("throw a || b;", or + " 37 35");
+        body("a = a || b;", or + " 4 35");
+        body("int c = a || b;", or + " 4:4 35");
+        body("print(a || b);", or + " 41 40 35");
+        body("a = (a || b);", or + " 4 35");
+        body("w = new row[a || b];", or + " 12 4:3 35");
+        body("w[a || b] = 1;", "3:3 3 32:5 0:1 31:8 3:1 19 19 0:1 10 35");
+        body("w[0] = a || b;", "3:3 0 3 32:6 0:1 31:9 3:1 19 19 10 35");
+        body("a = w[a || b];", "3:3 3 32:5 0:1 31:8 3:1 19 19 9 4 35");
+        body("o.f = a || b;", "3:2 3 32:5 0:1 31:8 3:1 19 19 6 35");
+        body("wait(o, a || b);", "3:2 3 32:5 0:1 31:8 3:1 19 19 41:3 40 35");
+        method("class A { static int f(int a, int b) { return a || b; } static void main() { } static int s = 1 || 0; }", 0, "3 32:4 0:1 31:7 3:1 19 19 36 0 36");
+        method("class A { static int f(int a, int b) { return a || b; } static void main() { } static int s = 1 || 0; }", 2, "0:1 32:4 0:1 31:7 0 19 19 8 35");
+    }
+
+    /** Runs a program; freezes it and goes on with the image behind each step. */
+    private static String throughImages(String text, int steps) {
+        FrostHouse x = Kit.house(text, 7);
+        StringBuilder all = new StringBuilder();
+        for (int i = 0; i < steps && x.about(0) == 1; i++) {
+            x.run(1);
+            all.append(Kit.out(x));
+            x.freeze();
+            x.take();
+            Kit.due("restore at step " + i + " of " + text + " (" + x.fault(3) + ")", x.restore(x.clock(), 0), 0);
+        }
+        return all.toString();
+    }
+
+    // What stands on the stack and in variables has its TYPE also in classes that are not the first.
+    private static void laterClasses() {
+        Kit.due("fields, calls, this", throughImages("class Z { int q; } class Y { } class B { int f; B n; text t; row w; static B s; static int g; B me() { return this; } int sum(B o, text u, int x) { f = f + x; this.f = this.f + 1; n = o; n.f = f + sleep(1); "
+            + "o.t = u + 1; w = new row[2]; w[1] = w[0] + f; this.w[0] = len(u); return f + o.sum2(me(), sleep(1)); } int sum2(B o, int x) { t = \"a\" + x; if (o == this || n == null) { s = o; return me().me().f; } return -x; } "
+            + "static B of(int x) { B b = new B(); b.f = x; g = g + x; B.s = b; return b; } } "
+            + "class A { static B b = B.of(4); static A a; B h; A k; static void main() { A x = new A(); a = x; x.h = b; x.k = a; x.k.h.n = B.of(5); print(a.k.h.n.sum(x.h, \"u\", 2)); print(b.t); print(b.f); print(B.g); sync (x.h) { x.h.w = new row[3]; print(len(a.h.w)); } "
+            + "try { print(x.h.n.sum(null, \"v\", sleep(1))); } catch (e) { print(e); } } }", 400), "8|a0|8|9|3|-1|");
     }
 }

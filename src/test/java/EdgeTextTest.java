@@ -102,6 +102,13 @@ public final class EdgeTextTest {
         check("class A { int a^\u00e4; }", 1);
         check("class A { int a^$; }", 1);
         check("class A { int Aa; int aA; int aa; int AA; }" + MAIN, 0);
+        for (char c = 'a'; c <= 'z'; c++) {
+            check("class " + c + "1 { int " + c + "; int " + Character.toUpperCase(c) + "; int b" + c + "; int b" + Character.toUpperCase(c) + "; }" + MAIN, 0);
+        }
+        for (char c = '0'; c <= '9'; c++) {
+            check("class A { int ^" + c + "; }", 1);
+            check("class A { int a" + c + "; static int s = " + c + "; static int t = 1" + c + "; }" + MAIN, 0);
+        }
     }
 
     // "WORDS: catch class else if ..": none of them is a NAME.
@@ -592,7 +599,7 @@ public final class EdgeTextTest {
     // "At its NAME a res class without METHODS freeze and thaw, both void, not static, without parameters."
     private static void resClasses() {
         String[] wrong = {"", "void freeze() { }", "void thaw() { }", "static void freeze() { } void thaw() { }", "void freeze() { } static void thaw() { }", "int freeze() { } void thaw() { }",
-            "void freeze() { } text thaw() { }", "void freeze(int a) { } void thaw() { }", "void freeze() { } void thaw(R a) { }", "int freeze; int thaw;", "void Freeze() { } void thaw() { }"};
+            "void freeze() { } text thaw() { }", "void freeze(int a) { } void thaw() { }", "void freeze() { } void thaw(R a) { }", "int freeze; int thaw;", "void Freeze() { } void thaw() { }", "void freezf() { } void thaw() { }", "void freeze() { } void thaq() { }", "void freeze() { } void tha() { }"};
         for (String members : wrong) {
             check("res class ^R { " + members + " }" + MAIN, 3);
             check("class R { " + members + " }" + MAIN, 0);
@@ -743,7 +750,7 @@ public final class EdgeTextTest {
 
     // "5: no class has a METHOD main, void, static, without parameters (at the end)."
     private static void noMain() {
-        for (String members : new String[] {"", "static int main() { }", "void main() { }", "static void main(int a) { }", "static void Main() { }", "int main;", "static int main;"}) {
+        for (String members : new String[] {"", "static int main() { }", "void main() { }", "static void main(int a) { }", "static void Main() { }", "static void mine() { }", "static void mainn() { }", "static void mai() { }", "int main;", "static int main;"}) {
             check("class A { " + members + " } \n^", 5);
             check("class A { " + members + " } class B { static void main() { } }", 0);
         }
