@@ -1323,7 +1323,6 @@ public final class FrostHouse {
             program.classes = grammar.classes;
             program.methods = grammar.methods;
             program.statics = grammar.statics;
-            program.strings = tokens.strings;
             for (int c = 0; c < grammar.classes; c++) {
                 int base = c * Program.CLASS_FACTS;
                 program.classFacts[base] = 0;
@@ -2154,7 +2153,6 @@ public final class FrostHouse {
         int classes;
         int methods;
         int statics;
-        int strings;
         int mainMethod;
 
         void setText(byte[] from, int start, int size) {

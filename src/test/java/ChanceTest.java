@@ -70,6 +70,14 @@ public final class ChanceTest {
         for (int what = 4; what <= 14; what++) {
             Kit.due("seed " + seed + " about " + what, y.about(what), x.about(what));
         }
+        for (int t = 0; t < x.about(4); t++) {
+            for (int what = 0; what <= 8; what++) {
+                Kit.due("seed " + seed + " thread " + t + ", " + what, y.thread(t, what), x.thread(t, what));
+            }
+        }
+        for (int c = 0; c < x.about(14); c++) {
+            Kit.due("seed " + seed + " class " + c, y.klass(c, 0) * 10 + y.klass(c, 1), x.klass(c, 0) * 10 + x.klass(c, 1));
+        }
     }
 
     /** Changed images are refused, or go on and can be told again. */

@@ -102,6 +102,10 @@ public final class EdgeTextTest {
         check("class A { int a^\u00e4; }", 1);
         check("class A { int a^$; }", 1);
         check("class A { int Aa; int aA; int aa; int AA; }" + MAIN, 0);
+        // Names that many ways of counting letters together would take for one.
+        check("class A { int Aa; int BB; int AaAa; int BBBB; int AaBB; int BBAa; int ab; int ba; }" + MAIN, 0);
+        check("class A { int Aa; int BB; int ^Aa; }" + MAIN, 2);
+        check("class A { int AaBB; void f() { ^BBAa = 1; } }" + MAIN, 2);
         for (char c = 'a'; c <= 'z'; c++) {
             check("class " + c + "1 { int " + c + "; int " + Character.toUpperCase(c) + "; int b" + c + "; int b" + Character.toUpperCase(c) + "; }" + MAIN, 0);
         }
