@@ -228,6 +228,34 @@ public final class EdgeCallTest {
         Kit.due("the latest image stays", x.about(2), length);
         x.run(100);
         Kit.due("arg 0, the first hash, handle 0, no failures", Kit.out(x), "0|" + ((1103515245 + 12345) >>> 1 | 1) + "|0|0|");
+        // The machine that was restored, with its checkpoint, its ARG and another thread at hand, is in use again now.
+        FrostHouse y = Kit.house("class A { static void f() { print(arg()); checkpoint(); } static void main() { spawn f(); sleep(500); } }", 50);
+        y.freeze();
+        y.take();
+        for (int i = 0; i < 4; i++) {
+            y.restore(9, 44);
+            while (y.about(11) != 1) {
+                y.run(1);
+            }
+            Kit.due("thread 1 is at hand", y.about(12), 1);
+            byte[] image = new byte[y.about(1)];
+            Kit.load(y, "class A { static void main() { print(arg()); } }", 3);
+            Kit.due("at hand", y.about(12), 0);
+            Kit.due("no checkpoint", y.about(11), NONE);
+            Image told = Image.of(y);
+            Kit.due("section 2", Arrays.toString(told.sections[2]), "[0, 0, 0, 1, 3, 0, 0]");
+            Kit.due("section 8", Arrays.toString(told.sections[8]), "[-1, 0, 0, 0, 0, 0, 0]");
+            if (i % 2 == 0) {
+                Kit.load(y, "class A { static void main() { print(arg()); } }", 3);
+            }
+            y.run(9);
+            Kit.due("arg", Kit.out(y), "0|");
+            Kit.due("ended", y.about(0), 3);
+            Kit.load(y, "class A { static void f() { print(arg()); checkpoint(); } static void main() { spawn f(); sleep(500); } }", 50);
+            y.freeze();
+            y.take();
+            Kit.due("as long", y.about(1), image.length);
+        }
     }
 
     // "Of the latest load() with a quantum 1 .. 50 (restore() does not matter), what 0: its kind (0 without), 1: its place."
@@ -309,6 +337,14 @@ public final class EdgeCallTest {
     private static void runEnds() {
         FrostHouse x = Kit.house("class A { static void main() { print(1); } }", 1);
         Kit.due("as many as are left", x.run(20000), 4);
+        FrostHouse z = Kit.house("class A { static void main() { print(1); } }", 1);
+        Kit.due("all but the last", z.run(3), 3);
+        Kit.due("it goes on", z.about(0), 1);
+        Kit.due("the last", z.run(1), 1);
+        Kit.due("ended behind that step", z.about(0), 3);
+        FrostHouse u = Kit.house("class A { static void main() { join(0); } }", 1);
+        Kit.due("two steps", u.run(2), 2);
+        Kit.due("stuck behind the second", u.about(0), 4);
         Kit.due("none behind the end", x.run(20000), 0);
         Kit.due("none of a stuck one", stuck().run(20000), 0);
         FrostHouse y = frozen();

@@ -20,6 +20,9 @@ public final class EdgeImageTest {
         numberingOfLists();
         fieldsLast();
         registeredThatCan();
+        handedOver();
+        nothingLeftBehind();
+        waitedOnAhead();
         Kit.done();
     }
 
@@ -216,6 +219,10 @@ public final class EdgeImageTest {
         Kit.due("it is restored", y.restore(77, 0), 0);
         y.run(1);
         Kit.due("and wakes at once", y.clock(), 78);
+        FrostHouse z = until("class A { static A l = new A(); static void main() { sync (l) { wait(l, 1); } } }", 9, 0, 3);
+        bytes("the shortest wait, a step later", z, 1, 3, 0, 0, 0, 0, 0, 0, 0, 0, 0, 1, 0, 1, 0);
+        FrostHouse u = until("class A { static A l = new A(); static void main() { sync (l) { wait(l, 2147483647); } } }", 9, 0, 3);
+        bytes("the longest wait, a step later", u, 1, 3, 0, 0, 0, 0, 0, 127, 255, 255, 254, 1, 0, 1, 0);
     }
 
     // "(of OBJECTS that have an owner) .. (also of such as have none but some that wait)".
@@ -313,5 +320,131 @@ public final class EdgeImageTest {
         section("c and b", x, 8, 255, 0, 0, 0, 0, 2, 2, 1, 0);
         section("two objects", x, 4, 0, 2, 0, 0, 0, 0, 0, 0, 0, 0, 0, 0);
         Kit.due("registered", x.about(7), 2);
+    }
+
+    // "One that is free then goes to the first of its queue at once, as often as that had it (ENTER: once)".
+    private static void handedOver() {
+        FrostHouse x = Kit.house("class A { static A l = new A(); static void f() { sync (l) { sync (l) { sleep(50); } sleep(50); } } static void main() { sync (l) { spawn f(); sleep(20); } sleep(500); } }", 50);
+        while (x.thread(1, 6) != 1) {
+            x.run(1);
+        }
+        section("once", x, 6, 1, 1, 1, 0, 1, 0, 0);
+        while (x.thread(1, 6) != 2) {
+            x.run(1);
+        }
+        section("twice", x, 6, 1, 1, 1, 0, 2, 0, 0);
+        while (x.thread(1, 6) != 1) {
+            x.run(1);
+        }
+        section("once again", x, 6, 1, 1, 1, 0, 1, 0, 0);
+        FrostHouse y = until("class A { static A l = new A(); static void f() { sync (l) { sync (l) { sync (l) { wait(l); sleep(50); } } } } static void main() { spawn f(); sleep(20); sync (l) { notify(l); } sleep(500); } }", 50, 1, 1);
+        while (y.thread(1, 0) == 1) {
+            y.run(1);
+        }
+        section("three times, as before its wait", y, 6, 1, 1, 1, 0, 3, 0, 0);
+    }
+
+    /** The header of thread t in section 7 if all ahead of it stand in one frame without values. */
+    private static void header(String what, FrostHouse x, int from, int state) {
+        bytes(what, x, from, state, 0, 0, 0, 0, 0, 0, 0, 0, 0, 0, 0, 0, 0, 255, 255);
+    }
+
+    // What section 7 tells of some states alone is 0, or 255, as soon as the state is another one.
+    private static void nothingLeftBehind() {
+        int from = 1 + 17 + 3;
+        String main = "static void main() { l = l; spawn f(); ";
+        FrostHouse enter = Kit.house("class A { static A l = new A(); static void f() { sync (l) { while (1) { } } } " + main + "sync (l) { sleep(40); } while (1) { } } }", 50);
+        while (enter.thread(1, 0) != 1) {
+            enter.run(1);
+        }
+        while (enter.thread(1, 0) == 1) {
+            enter.run(1);
+        }
+        header("behind ENTER", enter, from, 0);
+        FrostHouse wait = Kit.house("class A { static A l = new A(); static void f() { sync (l) { wait(l, 5000); while (1) { } } } " + main + "sleep(40); sync (l) { notify(l); } while (1) { } } }", 50);
+        while (wait.thread(1, 0) != 3) {
+            wait.run(1);
+        }
+        while (wait.thread(1, 0) != 0) {
+            wait.run(1);
+        }
+        header("behind a wait, notified", wait, from, 0);
+        FrostHouse late = Kit.house("class A { static A l = new A(); static void f() { sync (l) { wait(l, 90); while (1) { } } } " + main + "while (1) { } } }", 50);
+        while (late.thread(1, 0) != 3) {
+            late.run(1);
+        }
+        while (late.thread(1, 0) != 0) {
+            late.run(1);
+        }
+        byte[] all = Image.of(late).sections[7];
+        int at = all.length - 25;
+        Kit.due("main's own bytes", at >= from, true);
+        header("behind a wait, by time", late, at, 0);
+        for (String call : new String[] {"sync (l) { wait(l); }", "sync (l) { wait(l, 5000); }", "sleep(5000);", "join(0);"}) {
+            FrostHouse x = Kit.house("class A { static A l = new A(); static void f() { try { " + call + " } catch (e) { while (1) { } } } static void main() { l = l; spawn f(); sleep(40); interrupt(1); while (1) { } } }", 50);
+            while (x.thread(1, 0) != 8) {
+                x.run(1);
+            }
+            byte[] told = Image.of(x).sections[7];
+            // Main has what interrupt gave on its stack.
+            header("interrupted: " + call, x, from + 4, 8);
+            while (x.thread(1, 0) != 0) {
+                x.run(1);
+            }
+            Kit.due("told", told.length > from, true);
+            byte[] then = Image.of(x).sections[7];
+            header("-5 is thrown: " + call, x, then.length - 24, 0);
+        }
+        FrostHouse joins = Kit.house("class A { static A l; static void g() { sleep(30); } static void f() { join(2); while (1) { } } static void main() { l = l; spawn f(); spawn g(); while (1) { } } }", 50);
+        while (joins.thread(1, 0) != 5) {
+            joins.run(1);
+        }
+        while (joins.thread(1, 0) == 5) {
+            joins.run(1);
+        }
+        byte[] joined = Image.of(joins).sections[7];
+        header("behind a join", joins, joined.length - 17 - 24, 0);
+        FrostHouse wants = Kit.house("class B { static int x = sleep(30); } class A { static A l; static void g() { B.x = 1; } static void f() { sleep(5); B.x = 2; while (1) { } } static void main() { l = l; spawn f(); spawn g(); while (1) { } } }", 50);
+        while (wants.thread(1, 0) != 6) {
+            wants.run(1);
+        }
+        while (wants.thread(1, 0) == 6) {
+            wants.run(1);
+        }
+        for (int i = 0; i < 3; i++) {
+            wants.take();
+            Image.of(wants);
+            wants.take();
+            Kit.due("behind waiting for a class", wants.restore(wants.clock(), 0), 0);
+            wants.run(20);
+        }
+    }
+
+    // "threads, each: its FRAMES as written, then what it waits on": ahead of the next thread's FRAMES.
+    private static void waitedOnAhead() {
+        // Thread 1 is blocked on what thread 2 holds; thread 2's row of two is in a variable of its, the object in no other place.
+        FrostHouse x = Kit.house("class A { A n; static void f(A o) { row c = new row[3]; o = n2(o); } static A n2(A o) { sync (o) { } return o; } static void g(A o) { row a = new row[2]; sync (o) { o = null; sleep(900); } } "
+            + "static void main() { A o = new A(); spawn h(o); spawn g(o); o = null; sleep(5000); } static void h(A o) { sleep(90); e(o, o = null); } }".replace("e(o, o = null)", "k(o)").replace("static void h(A o)", "static void k(A p) { sync (p) { } } static void h(A o)"), 50);
+        while (x.thread(1, 0) != 1) {
+            x.run(1);
+        }
+        // In thread 1's frames o and p are it: 1; thread 2's row is 2.
+        section("objects", x, 4, 0, 2, 0, 0, 0, 0, 0, 0, 0, 0, 0, 255, 0, 0, 0, 0, 2, 0, 0, 0, 0, 0, 0, 0, 0);
+        // Here it is only what it waits on: its variable has another value by then.
+        FrostHouse y = Kit.house("class A { static A s; static A turn() { A o = s; s = null; return o; } static void f() { sync (turn()) { } } static void g() { row a = new row[2]; A b = s; sync (b) { b = null; spawn f(); sleep(900); } } "
+            + "static void main() { s = new A(); spawn z(); spawn g(); sleep(5000); } static void z() { } }", 50);
+        while (y.thread(3, 0) != 1) {
+            y.run(1);
+        }
+        // Thread 2 has its row in a variable, then what it holds; thread 3 waits on that.
+        section("objects", y, 4, 0, 2, 255, 0, 0, 0, 0, 2, 0, 0, 0, 0, 0, 0, 0, 0, 0, 0, 0, 0, 0);
+        // The other way round: the one that waits has the lesser number.
+        FrostHouse u = Kit.house("class A { static A s; static A turn() { A o = s; s = null; return o; } static void f() { sleep(100); sync (turn()) { } } static void g() { row a = new row[2]; A b = s; sync (b) { b = null; sleep(900); } } "
+            + "static void main() { s = new A(); spawn f(); spawn g(); sleep(5000); } }", 50);
+        while (u.thread(1, 0) != 1) {
+            u.run(1);
+        }
+        section("objects", u, 4, 0, 2, 0, 0, 0, 0, 0, 255, 0, 0, 0, 0, 2, 0, 0, 0, 0, 0, 0, 0, 0);
+        section("threads: what 1 waits on", u, 6, 1, 1, 2, 0, 1, 1, 1, 0);
     }
 }

@@ -38,6 +38,10 @@ public final class EdgeRunTest {
         interruptOfEach();
         sleepEdges();
         joinEdges();
+        whatStaysBelow();
+        nothingStays();
+        slotsAgain();
+        othersStillWait();
         Kit.done();
     }
 
@@ -302,6 +306,15 @@ public final class EdgeRunTest {
 
     // "if none has a time any more there is no STEP".
     private static void noStep() {
+        FrostHouse y = house("static void f() { sync (l) { wait(l, 300 - time()); } } static void main() { int t = spawn f(); sleep(50); sync (l) { join(t); } }", 50);
+        while (y.thread(0, 0) != 5) {
+            y.run(1);
+        }
+        Kit.due("one waits with a time", y.thread(1, 0), 3);
+        Kit.due("it goes on", y.about(0), 1);
+        Kit.due("no step is done", y.run(1), 0);
+        Kit.due("but its time is there", y.clock(), 302);
+        Kit.due("stuck", y.about(0), 4);
         FrostHouse x = house("static void f() { sync (l) { wait(l, 300 - time()); } } static void main() { int t = spawn f(); sleep(50); sync (l) { join(t); } }", 5);
         int steps = 0;
         while (x.run(1) == 1) {
@@ -644,5 +657,82 @@ public final class EdgeRunTest {
         FrostHouse x = Kit.house("class A { static void main() { join(0); } }", 1);
         x.run(9);
         Kit.due("itself", x.about(0), 4);
+    }
+
+    // What an instruction does not take stays below on the stack, in its place.
+    private static void whatStaysBelow() {
+        String[] ones = {"(1 < 2)", "(2 <= 2)", "(2 > 1)", "(2 >= 2)", "(1 == 1)", "(1 != 2)", "(l == l)", "(l != k)", "(null == null)", "(3 - 2)", "(1 * 1)", "(5 / 5)", "(5 % 2)", "-(-1)", "!0", "(1 && 1)", "(0 || 1)", "o.f", "r[1]", "s1",
+            "o.q(1)", "p(1)", "interrupt(0)", "len(\"x\")", "len(new row[1])", "close(open())", "(print(0) + 1)", "(notify(l) + 1)", "(all(l) + 1)", "(sleep(0) + 1)", "(sleep(1) + 1)", "(join(d) + 1)", "(interrupted() + 1)", "(failures() + 1)", "(arg() + 1)",
+            "(me() + 1)", "(time() > 0)", "(hash(l) == hash(l))", "(wait(l, 1) + 1)", "register(new R())", "(len(intern(\"\")) + 1)", "(o == null || 1)", "(len(\"a\" + \"b\") - 1)", "(len(\"a\" + 1) - 1)", "(len(1 + \"a\") - 1)", "(checkpoint() * 1)", "(new A() != null)"};
+        for (String one : ones) {
+            FrostHouse x = Kit.house("res class R { void freeze() { } void thaw() { } } class A { int f; static A l = new A(); static A k = new A(); static int s1 = 1; int q(int a) { return a; } static int p(int a) { return a; } static void e() { } "
+                + "static void main() { int d = spawn e(); sleep(9); A o = new A(); o.f = 1; row r = new row[2]; r[1] = 1; sync (l) { print(40 + (300 + " + one + ")); print(40 + (300 + (5000 + " + one + "))); } } }", 9);
+            x.run(300);
+            if (x.about(0) == 2) {
+                x.thaw();
+                x.run(300);
+            }
+            if (x.about(0) == 2) {
+                x.thaw();
+                x.run(300);
+            }
+            Kit.due(one, Kit.out(x).replace("0|341|0|5341|", "341|5341|"), "341|5341|");
+        }
+        FrostHouse y = Kit.house("class A { static int s; static void main() { try { checkpoint(); } catch (e) { } try { open(); checkpoint(); } catch (e) { print(40 + failure(0)); print(1 + (2 + failure(s))); } } }", 9);
+        y.run(9);
+        y.thaw();
+        y.run(100);
+        Kit.due("failure", Kit.out(y), "140|103|");
+        FrostHouse z = Kit.house("class A { static text t; static void main() { int i = 0; print(\"a\" + (\"b\" + (i + (\"c\" + i)))); print(1 + (2 + spawnIt())); } static void f() { } static int spawnIt() { return 10 + spawn f(); } }", 9);
+        z.run(100);
+        Kit.due("texts, spawns", Kit.out(z), "ab0c0|14|");
+    }
+
+    // Behind each S nothing is on the stack.
+    private static void nothingStays() {
+        FrostHouse x = Kit.house("class A { int f; A n; static int s; static row w = new row[2]; int q() { return 1; } static void v() { } static void main() { A o = new A(); o.f = 1; o.n = o; s = 2; w[1] = 3; o.q(); v(); spawn v(); time(); "
+            + "if (s) { } while (0) { } sync (o) { } try { throw 1; } catch (e) { } w[o.f] = o.n.f; print(s); sleep(1); } }", 50);
+        int ends = 0;
+        while (x.about(0) == 1) {
+            int pc = x.thread(0, 3);
+            boolean isMain = x.thread(0, 1) == 1 && x.thread(0, 2) == 2;
+            int done = isMain ? x.method(2, 100 + pc) : -1;
+            x.run(1);
+            boolean isBehind = isMain && x.thread(0, 1) == 1 && x.thread(0, 3) != pc && (done == 4 || done == 6 || done == 8 || done == 10 || done == 40 || done == 32 || done == 38 || done == 39);
+            if (isBehind) {
+                ends++;
+                Kit.due("behind instruction " + pc, x.thread(0, 4), 0);
+            }
+        }
+        Kit.due("as many were looked at", ends, 15);
+    }
+
+    // Whatever was where an object is made does not matter: each of the 200 is used again and again.
+    private static void slotsAgain() {
+        prints("static void main() { int i = 0; while (i < 450) { t = \"n\" + i; t = i + t; t = t + \"e\"; if (len(t) < 4) { print(t); } i = i + 1; } print(t); print(intern(t) == t); }", 9, "449n449e|1|");
+        prints("static void main() { int i = 0; while (i < 300) { A a = new A(); a.f = i; a.n = l; l = a; if (i % 50 == 49) { int c = 0; while (l != null && c < 50) { if (l.f != i - c) { print(i); } l = l.n; c = c + 1; } l = null; } i = i + 1; } print(i); }", 9, "300|");
+        prints("static void main() { int i = 0; while (i < 430) { row r = new row[3]; r[i % 3] = i; if (r[0] + r[1] + r[2] != i || hash(r) == hash(l)) { print(i); } i = i + 1; } print(i); }", 9, "430|");
+    }
+
+    // Who waits for something else is not READY by this.
+    private static void othersStillWait() {
+        FrostHouse x = Kit.house("class A { static void f(int n) { sleep(n); } static void j(int t) { join(t); print(t); } static void main() { spawn f(60); spawn f(200); spawn j(1); spawn j(2); sleep(400); } }", 50);
+        while (x.thread(1, 0) != 7) {
+            x.run(1);
+        }
+        Kit.due("who joins 1 is ready", x.thread(3, 0), 0);
+        Kit.due("who joins 2 is not", x.thread(4, 0), 5);
+        x.run(2);
+        Kit.due("joins none any more", Image.of(x).sections[7].length > 0 && x.thread(3, 0) == 0 && x.restore(0, 0) != 0, true);
+        FrostHouse y = Kit.house("class B { static int x = sleep(60); } class C { static int y = sleep(200); } class A { static void b() { B.x = 1; } static void c() { C.y = 1; } static void main() { spawn b(); spawn b(); spawn c(); spawn c(); sleep(400); } }", 50);
+        while (y.klass(0, 0) != 2) {
+            y.run(1);
+        }
+        Kit.due("who waits for B is ready", y.thread(2, 0), 0);
+        Kit.due("who waits for C is not", y.thread(4, 0), 6);
+        FrostHouse z = house("static void f(A o) { sync (o) { wait(o); print(1); } } static void e(A o) { sync (o) { print(2); } } static void main() { spawn f(l); spawn f(k); sleep(40); sync (k) { spawn e(k); sync (l) { spawn e(l); sleep(40); print(notify(l)); } sleep(40); } sleep(40); }", 50);
+        z.run(2000);
+        Kit.due("each has its own queue, and its own that wait", Kit.out(z), "1|2|1|2|");
+        Kit.due("one waits still", z.about(0), 4);
     }
 }
