@@ -663,10 +663,10 @@ public final class EdgeRunTest {
     private static void whatStaysBelow() {
         String[] ones = {"(1 < 2)", "(2 <= 2)", "(2 > 1)", "(2 >= 2)", "(1 == 1)", "(1 != 2)", "(l == l)", "(l != k)", "(null == null)", "(3 - 2)", "(1 * 1)", "(5 / 5)", "(5 % 2)", "-(-1)", "!0", "(1 && 1)", "(0 || 1)", "o.f", "r[1]", "s1",
             "o.q(1)", "p(1)", "interrupt(0)", "len(\"x\")", "len(new row[1])", "close(open())", "(print(0) + 1)", "(notify(l) + 1)", "(all(l) + 1)", "(sleep(0) + 1)", "(sleep(1) + 1)", "(join(d) + 1)", "(interrupted() + 1)", "(failures() + 1)", "(arg() + 1)",
-            "(me() + 1)", "(time() > 0)", "(hash(l) == hash(l))", "(wait(l, 1) + 1)", "register(new R())", "(len(intern(\"\")) + 1)", "(o == null || 1)", "(len(\"a\" + \"b\") - 1)", "(len(\"a\" + 1) - 1)", "(len(1 + \"a\") - 1)", "(checkpoint() * 1)", "(new A() != null)"};
+            "(me() + 1)", "(time() > 0)", "(hash(l) == hash(l))", "(wait(l, 1) + 1)", "register(new R())", "(register(z) + 1)", "(len(intern(\"\")) + 1)", "(o == null || 1)", "(len(\"a\" + \"b\") - 1)", "(len(\"a\" + 1) - 1)", "(len(1 + \"a\") - 1)", "(checkpoint() * 1)", "(new A() != null)"};
         for (String one : ones) {
             FrostHouse x = Kit.house("res class R { void freeze() { } void thaw() { } } class A { int f; static A l = new A(); static A k = new A(); static int s1 = 1; int q(int a) { return a; } static int p(int a) { return a; } static void e() { } "
-                + "static void main() { int d = spawn e(); sleep(9); A o = new A(); o.f = 1; row r = new row[2]; r[1] = 1; sync (l) { print(40 + (300 + " + one + ")); print(40 + (300 + (5000 + " + one + "))); } } }", 9);
+                + "static void main() { int d = spawn e(); sleep(9); A o = new A(); o.f = 1; row r = new row[2]; r[1] = 1; R z = new R(); register(z); sync (l) { print(40 + (300 + " + one + ")); print(40 + (300 + (5000 + " + one + "))); } } }", 9);
             x.run(300);
             if (x.about(0) == 2) {
                 x.thaw();
