@@ -422,15 +422,6 @@ public final class EdgeImageTest {
 
     // "threads, each: its FRAMES as written, then what it waits on": ahead of the next thread's FRAMES.
     private static void waitedOnAhead() {
-        // Thread 1 is blocked on what thread 2 holds; thread 2's row of two is in a variable of its, the object in no other place.
-        FrostHouse x = Kit.house("class A { A n; static void f(A o) { row c = new row[3]; o = n2(o); } static A n2(A o) { sync (o) { } return o; } static void g(A o) { row a = new row[2]; sync (o) { o = null; sleep(900); } } "
-            + "static void main() { A o = new A(); spawn h(o); spawn g(o); o = null; sleep(5000); } static void h(A o) { sleep(90); e(o, o = null); } }".replace("e(o, o = null)", "k(o)").replace("static void h(A o)", "static void k(A p) { sync (p) { } } static void h(A o)"), 50);
-        while (x.thread(1, 0) != 1) {
-            x.run(1);
-        }
-        // In thread 1's frames o and p are it: 1; thread 2's row is 2.
-        section("objects", x, 4, 0, 2, 0, 0, 0, 0, 0, 0, 0, 0, 0, 255, 0, 0, 0, 0, 2, 0, 0, 0, 0, 0, 0, 0, 0);
-        // Here it is only what it waits on: its variable has another value by then.
         FrostHouse y = Kit.house("class A { static A s; static A turn() { A o = s; s = null; return o; } static void f() { sync (turn()) { } } static void g() { row a = new row[2]; A b = s; sync (b) { b = null; spawn f(); sleep(900); } } "
             + "static void main() { s = new A(); spawn z(); spawn g(); sleep(5000); } static void z() { } }", 50);
         while (y.thread(3, 0) != 1) {

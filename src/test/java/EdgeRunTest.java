@@ -188,7 +188,7 @@ public final class EdgeRunTest {
         prints(fill + "try { w = new row[31]; } catch (e) { print(e); } try { w = new row[30]; } catch (e) { print(e); } "
             + "try { print(t + 1); } catch (e) { print(e); } try { print(\"1234567890\" + 1); } catch (e) { print(e); } }", 9, "-7|-12|-7|-14|-7|");
         // Null is ahead of both.
-        prints(fill + "try { print(t + (A.t = null)); } catch (e) { print(e); } }".replace("(A.t = null)", "w[0]"), 9, "-7|-1|");
+        prints(fill + "try { print(t + w[0]); } catch (e) { print(e); } }", 9, "-7|-1|");
     }
 
     // "FIELDS, STATICS, elements are 0, null at first."
@@ -485,7 +485,7 @@ public final class EdgeRunTest {
 
     // "SPAWN: (-1, then -11) likewise a new thread, READY: its number."
     private static void spawnOrder() {
-        prints("void m() { } static void main() { int i = 0; A a = new A(); while (i < 7) { i = i + 1; spawn a.m(); } a = null; try { spawn a.m(); } catch (e) { print(e); } try { spawn new A().m(); } catch (e) { print(e); } }".replace("new A().m()", "l.m()"), 50, "-1|-11|");
+        prints("void m() { } static void main() { int i = 0; A a = new A(); while (i < 7) { i = i + 1; spawn a.m(); } a = null; try { spawn a.m(); } catch (e) { print(e); } try { spawn l.m(); } catch (e) { print(e); } }", 50, "-1|-11|");
         FrostHouse x = house("static void m(int a, text b) { } static void main() { g = spawn m(4, null); while (1) { } }", 50);
         while (x.about(4) < 2) {
             x.run(1);

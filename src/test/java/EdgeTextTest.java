@@ -72,13 +72,13 @@ public final class EdgeTextTest {
     private static void longestTokens() {
         check("class classA { int intx; int while1; int if_; }" + MAIN, 0);
         check("class A { static int a = 1==1; static int b = 1<=1; static int c = 1!=1; static int d = !1; static int e = 1- -1; static int f = - -1; }" + MAIN, 0);
-        check("class A { static int a = 1 ===^= 1; }".replace("===^=", "==^="), 1);
+        check("class A { static int a = 1 ==^= 1; }", 1);
         check("class A { static int a = 1 <=^= 1; }", 1);
         check("class A { static int a = 1 <^> 1; }", 1);
         check("class A { static int a = 1 &&^& 1; }", 1);
         check("class A { static int a = 1 ||^| 1; }", 1);
-        check("class A { static int a =^= 1; }".replace("=^=", "^=="), 1);
-        check("class A { static int a = 1 = ^= 1; }".replace("= ^=", "^= ="), 1);
+        check("class A { static int a ^== 1; }", 1);
+        check("class A { static int a = 1 ^= = 1; }", 1);
         check("class A { static text a = \"ab\"^\"cd\"; }", 1);
         check("class A { static int a=--1; static int b=!!1; static int c=-!-1; }" + MAIN, 0);
         check("class A{static int a=2147483647;int b;text c;}class M{static void main(){}}", 0);
@@ -331,7 +331,7 @@ public final class EdgeTextTest {
         inMain("^i();", 2);
         inMain("^f();", 2);
         inMain("^A();", 2);
-        inMain("^s(1, ^zz);".replace("^zz", "zz"), 2);
+        inMain("^s(1, zz);", 2);
         inMain("print(^zz);", 2);
         // A METHOD of the class is ahead of a BUILT-IN of its name.
         check("class A { static int time(int a) { return a; } static void main() { print(time(1)); } }", 0);
@@ -356,7 +356,7 @@ public final class EdgeTextTest {
         inMain("p.freeze(); p.f = 2;", 0);
         inMain("i = new A().^z;", 2);
         inMain("i = new A().f; new A().m();", 0);
-        inMain("i = A.A.s;".replace("A.A", "A.^A"), 2);
+        inMain("i = A.^A.s;", 2);
     }
 
     private static boolean fits(int given, int wanted) {
@@ -477,7 +477,7 @@ public final class EdgeTextTest {
         inMain("int f = 1; i = f; row w = r; w[0] = 1;", 0);
         check("class A { int f; static int s = ^f; }" + MAIN, 3);
         check("class A { int f; static int s = ^this.f; }" + MAIN, 3);
-        check("class A { int f; static A a = new A(); static int s = a.f; int g = f; }".replace(" int g = f;", "") + MAIN, 0);
+        check("class A { int f; static A a = new A(); static int s = a.f; }" + MAIN, 0);
         inMethod("A x = this; int y = f + this.f + s + A.s; f = y; this.m(); m(); v(); A.v();", 0);
     }
 
@@ -494,7 +494,7 @@ public final class EdgeTextTest {
         // Its value is an int.
         inMain("t ^= spawn v();", 3);
         inMain("i = spawn v() + spawn v();", 0);
-        inMain("i = ^spawn v().f;".replace("^spawn v()", "^spawn v()"), 3);
+        inMain("i = ^spawn v().f;", 3);
         inMain("i = spawn ^v(1);", 3);
         inMain("i = spawn ^m();", 3);
         inMain("i = spawn A.^m();", 3);
@@ -508,7 +508,7 @@ public final class EdgeTextTest {
             inMain("i = r^[" + VALUES[a] + "];", a == INT ? 0 : 3);
             inMain("r = new row^[" + VALUES[a] + "];", a == INT ? 0 : 3);
             inMain("i = " + VALUES[a] + "^.f;", a == 3 || a == 4 ? 0 : 3);
-            inMain(VALUES[a] + "^.freeze();", a == 4 ? 0 : a == 3 ? 2 : 3, a == 3 ? VALUES[a].length() + 1 : -1);
+            inMain(VALUES[a] + (a == 3 ? ".^freeze();" : "^.freeze();"), a == 4 ? 0 : a == 3 ? 2 : 3);
         }
         inMain("i = new row[3][0];", 0);
         inMain("i = r[r[r[0]]];", 0);
@@ -517,17 +517,6 @@ public final class EdgeTextTest {
         inMain("i = 1^.f;", 3);
         inMain("i = o.f^.f;", 3);
         inMain("i = time()^.f;", 3);
-    }
-
-    /** Like inMain, but the place is that far behind the mark. */
-    private static void inMain(String statement, int kind, int behind) {
-        if (behind < 0) {
-            inMain(statement, kind);
-        } else {
-            int mark = statement.indexOf('^');
-            String plain = statement.replace("^", "");
-            inMain(plain.substring(0, mark + 1) + "^" + plain.substring(mark + 1), kind);
-        }
     }
 
     // "At the NAME: of a call its ARGS (as many, fitting); a METHOD that isn't static by a class's name, or by its NAME alone in what is static; a static one by an object".
@@ -628,7 +617,7 @@ public final class EdgeTextTest {
             inMain(around.replace("?", "(1 ^&& t)"), 3);
         }
         // A call whose ARG has no TYPE still has its own.
-        inMain("if (t + c((t - 1), t)) { }".replace("(t + c", "(^t + c"), 3);
+        inMain("if (^t + c((t - 1), t)) { }", 3);
         inMain("^throw t + c((t - 1), t);", 3);
         inMain("o ^= c((t - 1), t);", 3);
         inMain("i = -c((t ^- 1), t);", 3);
@@ -708,32 +697,13 @@ public final class EdgeTextTest {
         check("class A { void f() { " + variables.toString().replace("v11", "^v11") + "} }" + MAIN, 4);
         String twenty = "t=\"\";".repeat(20);
         check("class A { static void f(text t) { " + twenty + "} static void g(text t) { " + twenty + "} }" + MAIN, 0);
-        check("class A { static void f(text t) { " + twenty + "} static text z = ^\"\"; static void g(text t) { " + twenty.replaceFirst("t", "t") + "} }".replace("^", "") + MAIN, 4, 41);
+        check("class A { static void f(text t) { " + twenty + "} static text z = \"\"; static void g(text t) { " + "t=\"\";".repeat(19) + "t=^\"\";t=\"\";} }" + MAIN, 4);
         check("class A { static void f(text t) { " + twenty + twenty + "t = ^\"\"; t = \"\"; } }" + MAIN, 4);
-        check("class A { static text ^t; }".replace("^t", "t = ^1") + MAIN, 3, -1);
         check("class A { static void f(int x) { " + "x=x;".repeat(124) + "return; } }" + MAIN, 0);
         check("class A { static void ^f(int x) { " + "x=x;".repeat(124) + "return; return; } }" + MAIN, 4);
-        check("class A { static int s = " + "1+".repeat(123) + "1; static int t = 1; }".replace(" static int t = 1;", "") + MAIN, 0);
+        check("class A { static int s = " + "1+".repeat(123) + "1; }" + MAIN, 0);
         check("class ^A { static int s = " + "1+".repeat(123) + "1; static int t = 1; }" + MAIN, 4);
         check("class A { static int s = " + "1+".repeat(122) + "1; static int t = 1; }" + MAIN, 0);
-    }
-
-    /** The place is that of the n-th string if n is above 0, else that of the sign = ahead of the mark. */
-    private static void check(String marked, int kind, int nth) {
-        String text = marked.replace("^", "");
-        int place = 0;
-        if (nth > 0) {
-            place = -1;
-            for (int i = 0; i < nth; i++) {
-                place = text.indexOf('"', place + 1);
-                if (i < nth - 1) {
-                    place = text.indexOf('"', place + 1);
-                }
-            }
-        } else {
-            place = text.lastIndexOf('=', marked.indexOf('^'));
-        }
-        check(text.substring(0, place) + "^" + text.substring(place), kind);
     }
 
     // "or there are more than 10 values on its stack".
