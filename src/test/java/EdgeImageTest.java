@@ -178,10 +178,16 @@ public final class EdgeImageTest {
         bytes("ahead of the call", x, frame, 1, 0, 3, 0, 0, 0, 7, 0, 0, 0, 5, 0, 0, 0, 3);
         x.run(1);
         bytes("with an initialiser above it", x, frame, 2, 0, 0, 1, 0, 3, 0, 0, 0, 7, 0, 0, 0, 5, 0, 0, 0, 3);
+        x.take();
+        Kit.due("restored with it", x.restore(x.clock(), 0), 0);
         while (x.thread(0, 2) != 0) {
             x.run(1);
         }
         bytes("with its method above it", x, frame, 0, 0, 0, 0, 0, 0, 5, 0, 0, 0, 3, 1, 0, 3, 0, 0, 0, 7);
+        x.take();
+        Kit.due("restored with it", x.restore(x.clock(), 0), 0);
+        x.run(100);
+        Kit.due("goes on", Kit.out(x), "9|");
         FrostHouse y = Kit.house("class A { int f(int a) { return a; } static void main() { A x = new A(); print(x.f(5)); } }", 50);
         while (y.thread(0, 1) != 2 || y.thread(0, 2) != 0) {
             y.run(1);

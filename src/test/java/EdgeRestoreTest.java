@@ -302,6 +302,8 @@ public final class EdgeRestoreTest {
         broken6(1, 1, 255, 0, 0, 0, 8, 0, 0, 0, 0, 0, 0, 0, 0);
         broken6(1, 1, 255, 0, 0, 1, 7, 0);
         broken6(1, 1, 255, 0, 1, 0, 0);
+        broken6(1, 1, 255, 0, 0, 0, 1, 7);
+        broken6(2, 1, 255, 0, 0, 0, 0, 1, 255, 0, 0, 0, 0);
     }
 
     // "how many threads .. its state ..; 1 if INTERRUPTED, else 0; by what ..; how long ..; the OBJECT ..; how often ..; in 1 behind a wait ..; the thread it joins ..; the class it waits for ..; how many FRAMES".
@@ -634,6 +636,13 @@ public final class EdgeRestoreTest {
         RestoreTest.refused("told twice", x, i -> i.set(6, 3, 1, 0, 0, 2, 2, 1, 2, 0, 2, 0, 0, 1, 0, 0, 2, 0, 0, 1, 0, 0), 5, 4);
         RestoreTest.refused("told not at all", x, i -> i.set(6, 1, 1, 0, 0, 2, 2, 1, 2, 0), 5, 4);
         RestoreTest.refused("of what none holds", x, i -> i.set(6, 3, 1, 0, 0, 2, 2, 1, 2, 0, 2, 0, 0, 1, 0, 0, 3, 0, 0, 1, 0, 0), 5, 4);
+        FrostHouse s = standing("sync (l) { sync (l) { } }", 38, 0);
+        s.run(2);
+        Kit.due("it stands at the second enter, and holds l", s.method(0, 100 + s.thread(0, 3)) * 10 + s.thread(0, 6), 381);
+        int stack = Image.of(s).sections[7].length - 5;
+        RestoreTest.refused("as it is", s, i -> i.change(7, 1, 0), 0, NONE);
+        RestoreTest.refused("an owner in its own queue", s, i -> i.splice(7, stack, 4).change(7, 1, 1).change(7, 11, 1).set(6, 1, 1, 0, 0, 1, 1, 0, 0), 5, 4);
+        RestoreTest.refused("an owner without a monitor", s, i -> i.set(6, 0), 5, 4);
         FrostHouse d = Kit.house("class A { static A l = new A(); static void f() { } static void main() { l = l; spawn f(); sleep(20); while (1) { } } }", 50);
         d.run(40);
         Kit.due("one is dead", d.thread(1, 0), 7);
@@ -720,6 +729,25 @@ public final class EdgeRestoreTest {
         // The checkpoint's frame is not at checkpoint(), that of another one is.
         int pc = Image.of(p).sections[7].length - 1;
         RestoreTest.refused("a frame that is not there", p, i -> i.change(7, pc, 0), 5, 6);
+        // A frame that there is not, though an earlier image had one there at checkpoint().
+        FrostHouse deep = Kit.house("class A { static void f() { checkpoint(); } static void main() { f(); checkpoint(); } }", 50);
+        while (deep.about(11) != 0) {
+            deep.run(1);
+        }
+        Image two = Image.of(deep);
+        Kit.due("its frame 1", two.sections[8][1], 1);
+        deep.run(1);
+        deep.thaw();
+        deep.run(2);
+        while (deep.about(11) != 0) {
+            deep.run(1);
+        }
+        Image flat = Image.of(deep);
+        Kit.due("its frame 0", flat.sections[8][1], 0);
+        Kit.tape(deep, two.build());
+        Kit.due("restored", deep.restore(0, 0) + deep.restore(0, 0), 0);
+        Kit.tape(deep, flat.change(8, 1, 1).build());
+        Kit.due("refused", deep.restore(0, 0) * 10 + deep.fault(3), 56);
         // A dead thread.
         FrostHouse d = Kit.house("class A { static void f() { } static void main() { spawn f(); sleep(30); while (1) { } } }", 50);
         d.run(40);
@@ -770,6 +798,7 @@ public final class EdgeRestoreTest {
         RestoreTest.refused("sleeps, and waits for a class", s, i -> i.change(7, 16, 1), 5, 7);
         RestoreTest.refused("sleeps, dead by", s, i -> i.change(7, 6, 1), 5, 7);
         FrostHouse x = RestoreTest.threads();
+        RestoreTest.refused("sleeps, with an object that has a monitor", x, i -> i.change(7, 11, 1), 5, 7);
         int one = 1 + 17 + 3 + 4 + 3 + 3;
         Kit.due("thread 1 is blocked at an enter", Image.of(x).sections[7][one], 1);
         RestoreTest.refused("blocked at an enter, had it", x, i -> i.change(7, one + 12, 1), 5, 7);
