@@ -700,6 +700,12 @@ public final class EdgeCallTest {
         for (int what : new int[] {5, 9, -1, LEAST}) {
             Kit.due("klass(0, " + what + ")", x.klass(0, what), NONE);
         }
+        FrostHouse y = Kit.house("class Z { void a() { } } res class R { void b() { } void freeze() { } void thaw() { } static void main() { } }", 1);
+        for (int what : new int[] {5, 6, 7, 8, 9}) {
+            Kit.due("klass(1, " + what + ") of a res class", y.klass(1, what), NONE);
+        }
+        Kit.due("it is res", y.klass(1, 4), 1);
+        Kit.due("the other is not", y.klass(0, 4), 0);
         Kit.due("a done class has no thread", x.klass(0, 1), NONE);
         Kit.due("fields", x.klass(1, 2), 1);
         Kit.due("statics", x.klass(1, 3), 2);

@@ -135,8 +135,26 @@ public final class EdgeCodeTest {
         for (int m = 0; m < want.length; m++) {
             Kit.due("method " + m, code(x, m), want[m]);
         }
+        for (int m = 1; m < want.length; m++) {
+            Kit.due("values on the stack of method " + m, x.method(m, 4), 1);
+        }
         x.run(100);
         Kit.due("what they give", Kit.out(x), "0|null|1|1|");
+        FrostHouse y = standingAtGive("int b() { }");
+        RestoreTest.refused("an int on the stack there", y, i -> i.change(7, 25, 0, 0, 0, 6), 0, -1);
+        FrostHouse z = standingAtGive("text b() { }");
+        RestoreTest.refused("null on the stack there", z, i -> i.change(7, 25, 0, 0, 0, 0), 0, -1);
+        RestoreTest.refused("no object can be", z, i -> i.change(7, 25, 0, 0, 0, 1), 5, 1);
+    }
+
+    /** A thread in b, whose BLOCK is empty, at its GIVE: its frame has this at 21 .. 24, then one value. */
+    private static FrostHouse standingAtGive(String method) {
+        FrostHouse x = Kit.house("class A { " + method + " static A o; static void main() { o = new A(); print(o.b()); } }", 50);
+        while (x.thread(0, 2) != 0 || x.thread(0, 3) != 1) {
+            x.run(1);
+        }
+        Kit.due("one value on the stack", x.thread(0, 4), 1);
+        return x;
     }
 
     // "An INITIALISER: E SETSTATIC of each STATIC with E, RETURN."

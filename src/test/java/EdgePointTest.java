@@ -29,6 +29,7 @@ public final class EdgePointTest {
         imageOfPoint();
         throwsAreCaught();
         failuresOfTheLatest();
+        whichMethods();
         Kit.done();
     }
 
@@ -335,5 +336,16 @@ public final class EdgePointTest {
             y.run(1);
         }
         Kit.due("none since it began", y.about(10), 0);
+    }
+
+    // "a FRAME of its freeze": whatever numbers its METHODS have, in each res class its own.
+    private static void whichMethods() {
+        FrostHouse x = Kit.house("class Z { void freeze() { print(0); } void thaw() { print(0); } } res class R { void a() { print(0); } void thaw() { print(12); } void b() { print(0); } void freeze() { print(11); } } "
+            + "class A { static R r = new R(); static S s = new S(); static void main() { register(r); register(s); print(checkpoint()); } } res class S { void freeze() { print(21); } void thaw() { print(22); } void c() { print(0); } }", 50);
+        Kit.due("each its own", through(x), "21|11|FROZEN|12|22|1|");
+        x.take();
+        Kit.due("restored", x.restore(0, 0), 0);
+        x.run(1000);
+        Kit.due("behind a restore", Kit.out(x), "12|22|1|");
     }
 }

@@ -35,6 +35,7 @@ public final class EdgeRestoreTest {
         rule7();
         firstRule();
         retold();
+        nothingOfEarlierOnes();
         Kit.done();
     }
 
@@ -847,5 +848,34 @@ public final class EdgeRestoreTest {
         FrostHouse p = RestoreTest.point(1);
         // a and b change their places: the first static is 2.
         RestoreTest.refused("statics the other way round", p, i -> i.change(3, 5, 2).change(3, 9, 1), 6, Image.of(p).place(3, 5));
+    }
+
+    private static Image lines(String spawns, String call) {
+        FrostHouse x = Kit.house("class A { static A l = new A(); static A k = new A(); static void f(A o) { sync (o) { " + call + " } } static void main() { " + spawns + " } }", 50);
+        x.run(200);
+        return Image.of(x);
+    }
+
+    // What an earlier image told of queues and of those that wait does not matter for a later one.
+    private static void nothingOfEarlierOnes() {
+        String hold = "sync (l) { sync (k) { spawn f(?); spawn f(?); spawn f(?); join(0); } }";
+        Image one = lines(hold.replaceFirst("\\?", "l").replaceFirst("\\?", "k").replaceFirst("\\?", "k"), "");
+        Image two = lines(hold.replaceAll("\\?", "l"), "");
+        Kit.due("l 1, k 2 and 3", Arrays.toString(one.sections[6]), "[2, 1, 0, 0, 1, 1, 1, 0, 2, 0, 0, 1, 2, 2, 3, 0]");
+        Kit.due("l 1, 2 and 3", Arrays.toString(two.sections[6]), "[2, 1, 0, 0, 1, 3, 1, 2, 3, 0, 2, 0, 0, 1, 0, 0]");
+        String wait = "spawn f(?); sleep(9); spawn f(?); sleep(9); spawn f(?); sleep(9); sync (k) { join(0); }";
+        Image three = lines(wait.replaceFirst("\\?", "l").replaceFirst("\\?", "k").replaceFirst("\\?", "k").replace("sync (k) { join(0); }", "join(0);"), "wait(o);");
+        Image four = lines(wait.replaceAll("\\?", "l"), "wait(o);");
+        Kit.due("l 1, k 2 and 3 wait", Arrays.toString(three.sections[6]), "[2, 1, -1, 0, 0, 0, 1, 1, 2, -1, 0, 0, 0, 2, 2, 3]");
+        Kit.due("l 1, 2 and 3 wait", Arrays.toString(four.sections[6]), "[2, 1, -1, 0, 0, 0, 3, 1, 2, 3, 2, 0, 0, 1, 0, 0]");
+        FrostHouse x = new FrostHouse();
+        Image[] all = {one, two, three, four, one, three, two, four, two, one};
+        for (Image image : all) {
+            Kit.tape(x, image.build());
+            Kit.due("restored", x.restore(0, 0), 0);
+            Kit.due("and again", x.restore(0, 0), 0);
+            x.freeze();
+            Kit.due("as it was told", Arrays.equals(Kit.image(x), image.build()), true);
+        }
     }
 }

@@ -178,6 +178,8 @@ public final class EdgeRunTest {
         prints(fill + "static void main() { fill(197); two(new A(), null); two(new A(), null); print(1); try { two(new A(), new A()); } catch (e) { print(e); } }", 9, "1|-7|");
         // The new text counts beside the two that it is made of.
         prints(fill + "static void main() { t = \"a\" + 1; fill(195); t = t + 1; print(t); fill(1); try { t = t + 1; } catch (e) { print(e); } print(t); }", 9, "a11|-7|a11|");
+        // The first one that there was makes room, too.
+        prints(fill + "static void main() { l = null; k = null; fill(200); print(1); try { fill(1); } catch (e) { print(e); } }", 9, "1|-7|");
         // What is interned needs no room; what is not does.
         prints(fill + "static void main() { print(\"a\"); fill(197); print(\"a\"); try { print(\"b\"); } catch (e) { print(e); } print(intern(\"a\")); }", 9, "a|a|-7|a|");
     }
@@ -709,6 +711,9 @@ public final class EdgeRunTest {
 
     // Whatever was where an object is made does not matter: each of the 200 is used again and again.
     private static void slotsAgain() {
+        Kit.due("joins where the first object was", Kit.printed("class A { static text t; static void main() { A a = new A(); a = null; int i = 0; while (i < 450) { t = \"n\" + i; t = i + t; t = t + \"e\"; i = i + 1; } print(t); } }", 9), "449n449e|");
+        Kit.due("rows where the first object was", Kit.printed("class A { static row r; static void main() { A a = new A(); a = null; int i = 0; while (i < 650) { r = new row[i % 31]; i = i + 1; } print(len(r)); } }", 9), "29|");
+        Kit.due("objects where the first object was", Kit.printed("class A { static A r; int f; static void main() { A a = new A(); a = null; int i = 0; while (i < 650) { r = new A(); r.f = i; i = i + 1; } print(r.f); } }", 9), "649|");
         prints("static void main() { int i = 0; while (i < 450) { t = \"n\" + i; t = i + t; t = t + \"e\"; if (len(t) < 4) { print(t); } i = i + 1; } print(t); print(intern(t) == t); }", 9, "449n449e|1|");
         prints("static void main() { int i = 0; while (i < 300) { A a = new A(); a.f = i; a.n = l; l = a; if (i % 50 == 49) { int c = 0; while (l != null && c < 50) { if (l.f != i - c) { print(i); } l = l.n; c = c + 1; } l = null; } i = i + 1; } print(i); }", 9, "300|");
         prints("static void main() { int i = 0; while (i < 430) { row r = new row[3]; r[i % 3] = i; if (r[0] + r[1] + r[2] != i || hash(r) == hash(l)) { print(i); } i = i + 1; } print(i); }", 9, "430|");

@@ -181,6 +181,9 @@ public final class EdgeTextTest {
         check(text.toString(), 0);
         check(text + "^;", 1);
         check(text + "class ^", 1);
+        check("class A { static row r = new row^; }", 1);
+        check("class A { static row r = new row^.f; }", 1);
+        check("class A { static row r = new row ^+ 1; }", 1);
     }
 
     // "also a ( [ { - ! spawn, or an S that is no BLOCK behind ) or else, that would be the 21st open within one another".
@@ -424,7 +427,7 @@ public final class EdgeTextTest {
         for (String target : new String[] {"1", "(1)", "-i", "i + i", "(i + 1)", "c(1, t)", "o.q(1)", "time()", "spawn v()", "!i", "len(t)"}) {
             inMain(target + " ^= 1;", 3);
         }
-        for (String target : new String[] {"null", "\"\"", "new A()", "new row[1]"}) {
+        for (String target : new String[] {"null", "\"\"", "new A()", "new row[1]", "new row[i]", "new row[o.f]", "new row[r[0]]", "new row[s]"}) {
             inMain(target + " ^= null;", 3);
         }
         inMethod("this ^= null;", 3);
@@ -463,6 +466,9 @@ public final class EdgeTextTest {
         inMain("if (^t + 1) { }", 3);
         inMain("if (^new A()) { }", 3);
         inMain("^sync ((null)) { }", 3);
+        inMain("sync (o ^|| i) { }", 3);
+        inMain("sync (i ^&& o) { }", 3);
+        inMain("^sync (i || i) { }", 3);
         inMain("sync (\"\") { } sync (new A()) { } sync (new row[1]) { }", 0);
     }
 
@@ -616,6 +622,21 @@ public final class EdgeTextTest {
             inMain(around.replace("?", "^f"), 3);
             inMain(around.replace("?", "(1 ^&& t)"), 3);
         }
+        for (String target : new String[] {"i", "t", "o", "r"}) {
+            inMain(target + " = new row^[t];", 3);
+            inMain(target + " = new row[(t ^- 1)];", 3);
+            inMain(target + " = r^[t];", 3);
+            inMain(target + " = r[(t ^- 1)];", 3);
+            inMain(target + " = t^[0];", 3);
+            inMain(target + " = ^spawn i;", 3);
+            inMain(target + " = ^!t;", 3);
+            inMain(target + " = t ^< 1;", 3);
+            inMain(target + " = t ^== 1;", 3);
+            inMain(target + " = r ^+ 1;", 3);
+            inMain(target + " = 1 ^|| t;", 3);
+            inMain(target + " = ^c(1);", 3);
+            inMain(target + " = ^intern(1);", 3);
+        }
         // A call whose ARG has no TYPE still has its own.
         inMain("if (^t + c((t - 1), t)) { }", 3);
         inMain("^throw t + c((t - 1), t);", 3);
@@ -639,6 +660,14 @@ public final class EdgeTextTest {
     private static void noTypeByForm() {
         inMain("^(t - 1);", 3);
         inMain("^1 + (t - 1);", 3);
+        inMain("^new row[c(1, t)];", 3);
+        inMain("^c(1, t) || i;", 3);
+        inMain("^c(1, t) + 1;", 3);
+        inMain("^c(1, t) && c(1, t);", 3);
+        inMain("^r[c(1, t)];", 3);
+        inMain("^o.q(1) == 1;", 3);
+        inMain("^spawn v() + 1;", 3);
+        inMain("^-spawn v();", 3);
         inMain("^-c(1);", 3);
         inMain("^c(1);", 3);
         inMain("(^c(1));", 3);

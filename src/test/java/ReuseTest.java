@@ -12,7 +12,16 @@ public final class ReuseTest {
             + "register(a); register(b); spawn g(0); spawn g(8000); spawn j(); spawn s(); spawn t(); spawn h(25); interrupt(5); print(intern(\"u\" + 1)); open(); try { checkpoint(); } catch (e) { print(e); } close(0); checkpoint(); } }",
         // A class that fails, one that is begun, threads that are dead by something.
         "class B { static int x = sleep(9000); static text t = \"b\"; } class C { static int y = 1 / 0; static row r = new row[2]; } class A { static void f() { B.x = 1; } static void g() { throw -9; } "
-            + "static void main() { try { C.y = 1; } catch (e) { print(e); } spawn f(); spawn f(); spawn g(); spawn g(); sleep(100); interrupt(2); while (1) { } } }"};
+            + "static void main() { try { C.y = 1; } catch (e) { print(e); } spawn f(); spawn f(); spawn g(); spawn g(); sleep(100); interrupt(2); while (1) { } } }",
+        // Many monitors held, five threads blocked behind their waits, two at their enters; the last one made is at hand.
+        "class A { static row w; static A l = new A(); A n; static void f() { sync (l) { sync (l) { wait(l); } } } static void e() { sync (l) { } } static void d(int x, A o) { if (x == 0) { all(l); spawn e(); spawn e(); while (1) { } } "
+            + "o.n = new A(); sync (o) { sync (o.n) { sync (o) { d(x - 1, o.n); } } } } static void main() { spawn f(); spawn f(); spawn f(); spawn f(); spawn f(); sleep(300); sync (l) { d(25, new A()); } } }"};
+    private static final String[] CLEAN = {
+        // Each new object is entered, each new thread is blocked at an enter, waits, joins, sleeps; what is told of them is looked at all along.
+        "class A { A n; static A l = new A(); static void f(int x) { sync (l) { print(x); sleep(x); } } static void g() { sync (l) { wait(l, 5); } } static void main() { A o = new A(); int i = 0; while (i < 25) { o.n = new A(); sync (o) { sync (o.n) { i = i + 1; } } o = o.n; } "
+            + "sync (l) { spawn f(1); spawn f(2); spawn f(3); spawn f(4); spawn f(5); spawn g(); spawn g(); sleep(30); } sleep(5); join(3); sync (o) { sync (l) { print(7); } } } }",
+        "res class R { R n; void freeze() { print(1); } void thaw() { print(2); } } class A { static R r; static text t; static row w; static void main() { r = new R(); r.n = new R(); w = new row[30]; print(w[29]); print(register(r)); print(hash(r)); print(failures()); t = \"a\" + 1; "
+            + "print(intern(t) == t); print(r.n.n == null); print(interrupted()); print(checkpoint()); print(open()); } }"};
 
     public static void main(String[] args) {
         int seeds = args.length > 0 ? Integer.parseInt(args[0]) : 40;
@@ -20,7 +29,7 @@ public final class ReuseTest {
         for (int seed = 1; seed <= seeds; seed++) {
             Random random = new Random(seed);
             soil(used, seed, random);
-            String text = new Weaver(seed).weave();
+            String text = seed % 3 == 2 ? CLEAN[seed / 3 % 2] : new Weaver(seed).weave();
             FrostHouse fresh = new FrostHouse();
             int quantum = 1 + random.nextInt(12);
             Kit.due("seed " + seed + ": load", Kit.load(used, text, quantum), Kit.load(fresh, text, quantum));
@@ -39,7 +48,7 @@ public final class ReuseTest {
     /** Both machines of the house, the one it has and the one that is spare, are left with much in them. */
     private static void soil(FrostHouse used, int seed, Random random) {
         for (int i = 0; i < 3; i++) {
-            Kit.load(used, DIRTY[(i + seed) % 2], 1 + random.nextInt(20));
+            Kit.due("seed " + seed + ": load", Kit.load(used, DIRTY[(i + seed) % 3], 1 + random.nextInt(20)) > 0, true);
             used.run(3000 + random.nextInt(3000));
             // An image that is refused late leaves much in the spare machine.
             if (seed % 3 != 0 && used.freeze() > 0) {
@@ -92,7 +101,7 @@ public final class ReuseTest {
     /** An image of another program comes into the used house, and into a new one. */
     private static void restored(String what, FrostHouse used, Random random) {
         FrostHouse source = new FrostHouse();
-        if (Kit.load(source, DIRTY[random.nextInt(2)], 1 + random.nextInt(9)) < 0) {
+        if (Kit.load(source, DIRTY[random.nextInt(3)], 1 + random.nextInt(9)) < 0) {
             return;
         }
         source.run(random.nextInt(4000));
