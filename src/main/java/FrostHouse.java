@@ -3691,7 +3691,7 @@ public final class FrostHouse {
                     objects();
                     break;
                 case 5:
-                    numbers(heap.interned, 0, heap.internedCount);
+                    numbers(heap.interned, heap.internedCount);
                     break;
                 case 6:
                     monitors();
@@ -3813,7 +3813,7 @@ public final class FrostHouse {
             add(1, machine.pointFrame);
             add(1, machine.pointPhase);
             add(1, machine.pointCalled);
-            numbers(heap.list, 0, heap.listCount);
+            numbers(heap.list, heap.listCount);
             add(1, heap.registeredReached());
             for (int i = 0; i < heap.registeredCount; i++) {
                 int n = heap.number[heap.registered[i]];
@@ -3827,9 +3827,9 @@ public final class FrostHouse {
             }
         }
 
-        private void numbers(int[] list, int from, int to) {
-            add(1, to - from);
-            for (int i = from; i < to; i++) {
+        private void numbers(int[] list, int count) {
+            add(1, count);
+            for (int i = 0; i < count; i++) {
                 add(1, heap.number[list[i]]);
             }
         }
