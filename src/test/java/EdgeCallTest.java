@@ -725,7 +725,33 @@ public final class EdgeCallTest {
         Kit.due("the last initialiser", x.method(37, 5), 3);
         Kit.due("its class", x.method(37, 0), 7);
         Kit.due("none behind", x.method(38, 0), NONE);
+        x.run(30);
+        x.freeze();
+        x.take();
+        Kit.due("restored", x.restore(0, 0), 0);
+        Kit.load(x, text.toString(), 5);
         x.run(1000);
         Kit.due("they are used", Kit.out(x), "33|8|");
+        // The most statics and fields.
+        StringBuilder most = new StringBuilder();
+        for (int c = 0; c < 8; c++) {
+            most.append("class C").append(c).append(" { ");
+            for (int i = 0; i < 8; i++) {
+                most.append(i % 2 == 0 ? "static int s" : "static text s").append(i).append("; C").append(c).append(" f").append(i).append("; ");
+            }
+            most.append(c == 7 ? "static C7 make() { C7 o = new C7(); o.f7 = o; o.f0 = new C7(); s7 = \"z\"; s6 = 9; return o; } static void main() { C7 o = make(); while (1) { } } } " : "} ");
+        }
+        FrostHouse y = Kit.house(most.toString(), 5);
+        y.run(60);
+        Kit.due("the last static", y.klass(0, 10 + 63), 1);
+        Kit.due("the last int", y.klass(0, 10 + 62), 9);
+        Kit.due("none behind", y.klass(0, 10 + 64), NONE);
+        Kit.due("statics", y.klass(7, 3), 8);
+        Kit.due("fields", y.klass(7, 2), 8);
+        Kit.due("objects", y.about(6), 3);
+        y.freeze();
+        y.take();
+        Kit.due("restored", y.restore(0, 0), 0);
+        Kit.due("the last static", y.klass(0, 10 + 63), 1);
     }
 }

@@ -176,11 +176,17 @@ public final class EdgeTextTest {
         for (String token : tokens) {
             check(text + "^", 1);
             check(text + "^# " + token, 1);
+            if (!(text + token).endsWith("main ( ) { print ( \"a\" ) ; } }")) {
+                check(text + token + "^", 1);
+            }
             text.append(token).append(" ");
         }
         check(text.toString(), 0);
         check(text + "^;", 1);
         check(text + "class ^", 1);
+        for (String sign : new String[] {"==", "!=", "<=", ">=", "&&", "||", "+", "<", "="}) {
+            check("class A { static void f() { x " + sign + "^", 1);
+        }
         check("class A { static row r = new row^; }", 1);
         check("class A { static row r = new row^.f; }", 1);
         check("class A { static row r = new row ^+ 1; }", 1);
