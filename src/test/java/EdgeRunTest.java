@@ -714,11 +714,11 @@ public final class EdgeRunTest {
         for (String make : new String[] {"t = \"n\" + i;", "t = i + \"n\";", "t = \"n\" + \"m\";", "w = new row[3];", "l = new A();", "t = intern(\"n\" + \"m\");"}) {
             int[] steps = new int[3];
             for (int k = 0; k < 3; k++) {
-                FrostHouse x = Kit.house("class A { static text t; static row w; static A l; static void main() { A a = new A(); a = null; int i = 0; while (i < " + (200 + 200 * k) + ") { " + make + " i = i + 1; } } }", 9);
+                FrostHouse x = Kit.house("class A { static text t; static row w; static A l; static void main() { A a = new A(); a = null; int i = 0; while (i < " + (k == 2 ? 640 : 20 + 20 * k) + ") { " + make + " i = i + 1; } } }", 9);
                 steps[k] = x.run(20000);
                 Kit.due("ended", x.about(0), 3);
             }
-            Kit.due("as many steps for each: " + make, steps[2] - steps[1], steps[1] - steps[0]);
+            Kit.due("as many steps for each: " + make, steps[2] - steps[1], 30 * (steps[1] - steps[0]));
         }
         Kit.due("joins where the first object was", Kit.printed("class A { static text t; static void main() { A a = new A(); a = null; int i = 0; while (i < 450) { t = \"n\" + i; t = i + t; t = t + \"e\"; i = i + 1; } print(t); } }", 9), "449n449e|");
         Kit.due("rows where the first object was", Kit.printed("class A { static row r; static void main() { A a = new A(); a = null; int i = 0; while (i < 650) { r = new row[i % 31]; i = i + 1; } print(len(r)); } }", 9), "29|");
